@@ -23,6 +23,9 @@ public final class PolicyGate {
     private static final int LAST_HOUR = 23;
     private static final int MOST_MINUTES = 10000;
 
+    /** The set of rules to leave out, to see what is and not what would be. */
+    private static final int NO_RULE = 0;
+
     private static final int READ = 0;
     private static final int SHARE = 4;
     private static final int ACTIONS = 5;
@@ -49,9 +52,10 @@ public final class PolicyGate {
     private final Row counts;
 
     public PolicyGate() {
-        told = new Told();
-        now = new View(told);
-        would = new View(told);
+        Told nothingYet = new Told();
+        told = nothingYet;
+        now = new View(nothingYet);
+        would = new View(nothingYet);
         counts = new Row(DECISIONS, 0);
     }
 
@@ -201,7 +205,7 @@ public final class PolicyGate {
     public boolean matches(int rule, int user, int action, int resource) throws IndexOutOfBoundsException {
         checkThere(isRule(rule));
         checkAsked(user, action, resource);
-        now.look(told.weighing, told.rules.everyOne());
+        now.look(told.weighing, NO_RULE);
         return isIn(now.matching(user, action, resource), rule);
     }
 
@@ -240,7 +244,7 @@ public final class PolicyGate {
 
     public boolean isGood(int grant) throws IndexOutOfBoundsException {
         checkThere(isGrant(grant));
-        now.look(told.weighing, told.rules.everyOne());
+        now.look(told.weighing, NO_RULE);
         return isIn(now.good, grant);
     }
 
@@ -248,19 +252,19 @@ public final class PolicyGate {
 
     public int decide(int user, int action, int resource) throws IndexOutOfBoundsException {
         checkAsked(user, action, resource);
-        now.look(told.weighing, told.rules.everyOne());
+        now.look(told.weighing, NO_RULE);
         return now.decided(user, action, resource);
     }
 
     public int why(int user, int action, int resource) throws IndexOutOfBoundsException {
         checkAsked(user, action, resource);
-        now.look(told.weighing, told.rules.everyOne());
+        now.look(told.weighing, NO_RULE);
         return now.reason(user, action, resource);
     }
 
     public int access(int user, int action, int resource) throws IndexOutOfBoundsException {
         checkAsked(user, action, resource);
-        now.look(told.weighing, told.rules.everyOne());
+        now.look(told.weighing, NO_RULE);
         int decision = now.decided(user, action, resource);
         if (decision == ALLOWED || decision == GRANTED) {
             told.users.note(user, action, resource);
@@ -283,7 +287,7 @@ public final class PolicyGate {
 
     public int who(int action, int resource) throws IndexOutOfBoundsException {
         checkThere(isAction(action) && isResource(resource));
-        now.look(told.weighing, told.rules.everyOne());
+        now.look(told.weighing, NO_RULE);
         int set = 0;
         for (int user = 0; user < told.users.count; user++) {
             if (now.isAllowed(user, action, resource)) {
@@ -295,13 +299,13 @@ public final class PolicyGate {
 
     public int reach(int user, int action) throws IndexOutOfBoundsException {
         checkThere(isUser(user) && isAction(action));
-        now.look(told.weighing, told.rules.everyOne());
+        now.look(told.weighing, NO_RULE);
         return now.allowedTo(user, action);
     }
 
     public int rolesNeeded(int user, int action, int resource) throws IndexOutOfBoundsException {
         checkAsked(user, action, resource);
-        would.look(told.weighing, told.rules.everyOne());
+        would.look(told.weighing, NO_RULE);
         if (would.isAllowed(user, action, resource)) {
             return 0;
         }
@@ -319,28 +323,28 @@ public final class PolicyGate {
     }
 
     public int contradictions() {
-        now.look(told.weighing, told.rules.everyOne());
+        now.look(told.weighing, NO_RULE);
         return now.opposedPairs();
     }
 
     public boolean isIdle(int rule) throws IndexOutOfBoundsException {
         checkThere(isRule(rule));
-        now.look(told.weighing, told.rules.everyOne());
-        would.look(told.weighing, told.rules.everyOne() & ~(1 << rule));
+        now.look(told.weighing, NO_RULE);
+        would.look(told.weighing, 1 << rule);
         return now.differences(would) == 0;
     }
 
     public int wouldDiffer(int weighing) throws IllegalArgumentException {
         checkArguments(isUpTo(weighing, BY_RANK));
-        now.look(told.weighing, told.rules.everyOne());
-        would.look(weighing, told.rules.everyOne());
+        now.look(told.weighing, NO_RULE);
+        would.look(weighing, NO_RULE);
         return now.differences(would);
     }
 
     public int wouldGain(int user, int role) throws IndexOutOfBoundsException {
         checkThere(isUser(user) && isRole(role));
-        now.look(told.weighing, told.rules.everyOne());
-        would.look(told.weighing, told.rules.everyOne());
+        now.look(told.weighing, NO_RULE);
+        would.look(told.weighing, NO_RULE);
         would.giveSet(user, told.users.sets.at(user) | 1 << role);
         would.weighGrants();
         int gained = 0;
@@ -357,9 +361,9 @@ public final class PolicyGate {
     public double openness() {
         int all = told.users.count * ACTIONS * told.tree.count;
         if (all <= 0) {
-            return 0;
+            return 0.0;
         }
-        now.look(told.weighing, told.rules.everyOne());
+        now.look(told.weighing, NO_RULE);
         int allowed = 0;
         for (int user = 0; user < told.users.count; user++) {
             for (int action = 0; action < ACTIONS; action++) {
@@ -370,7 +374,7 @@ public final class PolicyGate {
     }
 
     public long digest() {
-        now.look(told.weighing, told.rules.everyOne());
+        now.look(told.weighing, NO_RULE);
         long sum = withNumbers(2579L);
         sum = withNear(sum);
         for (int resource = 0; resource < told.tree.count; resource++) {
@@ -629,7 +633,7 @@ public final class PolicyGate {
         /** No role holds itself, so the first step that comes to the role is the least. */
         int nearBy(int set, int role) {
             int reached = set;
-            for (int step = 1; step <= MOST_ROLES; step++) {
+            for (int step = 1; step <= MOST_ROLES && reached != 0; step++) {
                 if (isIn(reached, role)) {
                     return step;
                 }
@@ -714,10 +718,6 @@ public final class PolicyGate {
             return count;
         }
 
-        int everyOne() {
-            return (1 << count) - 1;
-        }
-
         boolean holdsIn(int rule, int hour) {
             int from = first.at(rule);
             int to = last.at(rule);
@@ -793,10 +793,10 @@ public final class PolicyGate {
             told = allTold;
         }
 
-        /** Takes in what is told now: with this weighing, and of the rules those of the set alone. */
-        void look(int itsWeighing, int itsRules) {
+        /** Takes in what is told now, but with this weighing and without the rules of the set. */
+        void look(int itsWeighing, int leftOut) {
             weighing = itsWeighing;
-            lookAtRules(itsRules);
+            lookAtRules(leftOut);
             lookAtWalls();
             for (int user = 0; user < told.users.count; user++) {
                 giveSet(user, told.users.sets.at(user));
@@ -804,14 +804,14 @@ public final class PolicyGate {
             weighGrants();
         }
 
-        private void lookAtRules(int itsRules) {
+        private void lookAtRules(int leftOut) {
             onAction.clear();
             onResource.clear();
             live = 0;
             allowing = 0;
             int hour = told.hour();
             for (int rule = 0; rule < told.rules.count; rule++) {
-                if (isIn(itsRules, rule) && told.rules.holdsIn(rule, hour)) {
+                if (!isIn(leftOut, rule) && told.rules.holdsIn(rule, hour)) {
                     live |= 1 << rule;
                 }
                 if (told.rules.allows.at(rule) == 1) {
@@ -1052,8 +1052,9 @@ public final class PolicyGate {
         }
 
         /**
-         * The roles that could change what is decided about this: those along which a user comes to a role of a rule
-         * that is asked for it. Labels and walls ask for no roles, so none is useful against them.
+         * The roles that could change what is decided about this: those along which the user comes to a role of a rule
+         * for it, or for its rights to what it granted itself and may be granted back. Labels and walls ask for no
+         * roles, so none is useful against them.
          */
         int usefulRoles(int user, int action, int resource) {
             if (isAgainstLabel(user, action, resource) || isWalledOff(user, resource)) {
@@ -1061,8 +1062,10 @@ public final class PolicyGate {
             }
             int rules = onAction.at(action) & onResource.at(resource);
             for (int grant = 0; grant < told.grants.count; grant++) {
-                if (told.isThere(grant) && told.isGiven(grant, user, action, resource)) {
-                    rules |= onAction.at(action) | onAction.at(SHARE);
+                boolean isItsOwn = told.grants.from.at(grant) == user && told.grants.action.at(grant) == action;
+                if (isItsOwn && told.isThere(grant)) {
+                    rules |= (onAction.at(action) | onAction.at(SHARE))
+                            & onResource.at(told.grants.resource.at(grant));
                 }
             }
             return leadingTo(rules & live);

@@ -6,6 +6,7 @@ import java.util.Random;
 
 /** Long random runs, of the same seeds each time, in which PolicyGate has to answer as PlainGate does. */
 public final class FuzzTest {
+    private static final int READ = 0;
     private static final Map<String, Method> GATE = methodsOf(PolicyGate.class);
     private static final Map<String, Method> PLAIN = methodsOf(PlainGate.class);
 
@@ -25,12 +26,15 @@ public final class FuzzTest {
     private final int mostUsers;
     private final int mostRoles;
     private final int mostResources;
+    /** Runs in which rules are narrow, so that it takes several roles, or grants passed on, to be allowed. */
+    private final boolean isNarrow;
     private final PolicyGate gate = new PolicyGate();
     private final PlainGate plain = new PlainGate();
     private final StringBuilder run = new StringBuilder();
 
     private FuzzTest(long seed, boolean isLarge) {
         random = new Random(seed);
+        isNarrow = seed % 3 == 1;
         mostUsers = isLarge ? 13 : 2 + random.nextInt(4);
         mostRoles = isLarge ? 7 : 1 + random.nextInt(5);
         mostResources = isLarge ? 25 : 1 + random.nextInt(6);
@@ -42,7 +46,56 @@ public final class FuzzTest {
             boolean isLarge = seed % 40 == 0;
             new FuzzTest(seed, isLarge).go(seed, isLarge ? 300 : 512);
         }
+        int severalRoles = 0;
+        for (int seed = 0; seed < runs; seed++) {
+            severalRoles += new FuzzTest(seed, false).goThereAndBack(seed);
+        }
+        Check.same("some need several roles", severalRoles * 10 > runs, true);
         Check.end("FuzzTest");
+    }
+
+    /** Grants to others and back again, by rights of several roles: the case in which one role may not be enough. */
+    private int goThereAndBack(long seed) {
+        String[] building = {"addUser", "addUser", "addUser", "addRole", "addRole", "addRole", "addRole"};
+        for (String name : building) {
+            answer(seed, name, name.equals("addUser") ? new Object[] {0, 0} : new Object[0]);
+        }
+        answer(seed, "addResource", 0);
+        answer(seed, "addResource", 1);
+        answer(seed, "setWeighing", random.nextInt(4));
+        for (int k = 0; k < 6; k++) {
+            answer(seed, "addRule", random.nextInt(6) > 0, 12 + random.nextInt(4), random.nextBoolean() ? 1 : 16,
+                    random.nextInt(4) / 3);
+            answer(seed, "setRule", k, random.nextInt(12) == 0, random.nextInt(3));
+        }
+        for (int k = 0; k < 8; k++) {
+            int from = random.nextInt(3);
+            answer(seed, "grant", from, otherThan(from), READ, random.nextInt(4) / 3, 3 - k / 2, 100);
+        }
+        for (int k = 0; k < 2; k++) {
+            answer(seed, "setHolds", random.nextInt(4), random.nextInt(4), true);
+            answer(seed, "setApart", random.nextInt(4), random.nextInt(4));
+            answer(seed, "setRole", random.nextInt(3), random.nextInt(4), true);
+        }
+        int several = 0;
+        for (int user = 0; user < 3; user++) {
+            for (int resource = 0; resource < 3; resource++) {
+                several += answer(seed, "rolesNeeded", user, READ, resource).compareTo("2") >= 0 ? 1 : 0;
+                answer(seed, "wouldGain", user, resource);
+            }
+        }
+        for (int rule = 0; rule < 6; rule++) {
+            answer(seed, "isIdle", rule);
+        }
+        answer(seed, "digest");
+        return several;
+    }
+
+    private String answer(long seed, String name, Object... arguments) {
+        String call = name + java.util.Arrays.toString(arguments);
+        String due = ask(PLAIN.get(name), plain, arguments);
+        Check.same("there and back, seed " + seed + ": " + call, ask(GATE.get(name), gate, arguments), due);
+        return due.startsWith("throws") ? "" : due;
     }
 
     private static Map<String, Method> methodsOf(Class<?> type) {
@@ -117,10 +170,10 @@ public final class FuzzTest {
             case "far":
                 return new Object[] {resource(), resource()};
             case "addRule":
-                return new Object[] {random.nextInt(3) > 0, random.nextBoolean() ? user() : 12 + role(),
-                    random.nextBoolean() ? 31 : odd(1 + random.nextInt(31)), resource()};
+                return new Object[] {random.nextInt(3) > 0 || isNarrow && random.nextBoolean(),
+                    random.nextInt(isNarrow ? 6 : 2) == 0 ? user() : 12 + role(), actions(), resource()};
             case "setRule":
-                return new Object[] {rule(), mostly(), up(2) + up(2)};
+                return new Object[] {rule(), isNarrow ? rare() : mostly(), up(2) + up(2)};
             case "setTerms":
                 return new Object[] {rule(), odd(random.nextInt(4)), up(23), up(23)};
             case "dropRule":
@@ -134,7 +187,9 @@ public final class FuzzTest {
             case "goOn":
                 return new Object[] {odd(1 + random.nextInt(random.nextInt(4) == 0 ? 10000 : 90))};
             case "grant":
-                return new Object[] {user(), user(), action(), resource(), up(3), odd(1 + random.nextInt(1500))};
+                int from = user();
+                return new Object[] {from, otherThan(from), isNarrow ? 0 : action(), resource(), up(3),
+                    odd(1 + random.nextInt(1500))};
             case "revoke":
             case "isGood":
                 return new Object[] {odd(plain.grants() == 0 ? 0 : random.nextInt(plain.grants()))};
@@ -190,8 +245,22 @@ public final class FuzzTest {
         return odd(random.nextInt(3) == 0 ? random.nextInt(5) : random.nextInt(2));
     }
 
+    private int actions() {
+        if (isNarrow) {
+            return random.nextBoolean() ? 1 : 16;
+        }
+        return random.nextBoolean() ? 31 : odd(1 + random.nextInt(31));
+    }
+
     private int user() {
         return odd(plain.users() == 0 ? 0 : random.nextInt(plain.users()));
+    }
+
+    private int otherThan(int user) {
+        if (plain.users() < 2 || rare()) {
+            return user();
+        }
+        return Math.floorMod(user + 1 + random.nextInt(plain.users() - 1), plain.users());
     }
 
     private int role() {

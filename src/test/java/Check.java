@@ -2,8 +2,14 @@
 final class Check {
     private static int right = 0;
     private static int wrong = 0;
+    private static String sentence = "";
 
     private Check() {
+    }
+
+    /** The sentence of the document that the checks from here on are about. */
+    static void about(String itsSentence) {
+        sentence = itsSentence + " :: ";
     }
 
     static void same(String what, long got, long due) {
@@ -34,7 +40,7 @@ final class Check {
         same(what, thrownBy(call), "IllegalStateException");
     }
 
-    private static String thrownBy(Runnable call) {
+    static String thrownBy(Runnable call) {
         try {
             call.run();
             return "nothing";
@@ -48,7 +54,7 @@ final class Check {
             right++;
         } else {
             wrong++;
-            System.out.println("WRONG: " + text);
+            System.out.println("WRONG: " + sentence + text);
         }
     }
 

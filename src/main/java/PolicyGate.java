@@ -309,14 +309,18 @@ public final class PolicyGate {
         if (would.isAllowed(user, action, resource)) {
             return 0;
         }
+        // Two more are enough, if any are: what is allowed rests on one rule that decides or, by a grant that comes
+        // back to the user, on two, for the action and for SHARE; roles that lead to neither add only rules against it.
         int set = told.users.sets.at(user);
-        int useful = would.usefulRoles(user, action, resource) & ~set;
         int fewest = -1;
-        for (int more = 1; more < 1 << told.roles.count; more++) {
-            int size = Integer.bitCount(more);
-            boolean isWorthTrying = (more & ~useful) == 0 && (fewest < 0 || size < fewest);
-            if (isWorthTrying && wouldBeAllowed(user, set | more, action, resource)) {
-                fewest = size;
+        for (int role = 0; role < told.roles.count; role++) {
+            for (int other = 0; other <= role; other++) {
+                int then = set | 1 << role | 1 << other;
+                int more = Integer.bitCount(then & ~set);
+                boolean isWorthTrying = more > 0 && (fewest < 0 || more < fewest);
+                if (isWorthTrying && wouldBeAllowed(user, then, action, resource)) {
+                    fewest = more;
+                }
             }
         }
         return fewest;
@@ -1049,39 +1053,6 @@ public final class PolicyGate {
                     opposed.put(rule, opposed.at(rule) | denying);
                 }
             }
-        }
-
-        /**
-         * The roles that could change what is decided about this: those along which the user comes to a role of a rule
-         * for it, or for its rights to what it granted itself and may be granted back. Labels and walls ask for no
-         * roles, so none is useful against them.
-         */
-        int usefulRoles(int user, int action, int resource) {
-            if (isAgainstLabel(user, action, resource) || isWalledOff(user, resource)) {
-                return 0;
-            }
-            int rules = onAction.at(action) & onResource.at(resource);
-            for (int grant = 0; grant < told.grants.count; grant++) {
-                boolean isItsOwn = told.grants.from.at(grant) == user && told.grants.action.at(grant) == action;
-                if (isItsOwn && told.isThere(grant)) {
-                    rules |= (onAction.at(action) | onAction.at(SHARE))
-                            & onResource.at(told.grants.resource.at(grant));
-                }
-            }
-            return leadingTo(rules & live);
-        }
-
-        private int leadingTo(int rules) {
-            int useful = 0;
-            for (int role = 0; role < told.roles.count; role++) {
-                int had = told.roles.hadWith(1 << role);
-                for (int rule = 0; rule < told.rules.count; rule++) {
-                    if (isIn(rules, rule) && isIn(had << FIRST_ROLE, told.rules.forWhom.at(rule))) {
-                        useful |= 1 << role;
-                    }
-                }
-            }
-            return useful;
         }
     }
 }

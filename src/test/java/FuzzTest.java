@@ -51,6 +51,9 @@ public final class FuzzTest {
             severalRoles += new FuzzTest(seed, false).goThereAndBack(seed);
         }
         Check.same("some need several roles", severalRoles * 10 > runs, true);
+        for (int seed = 0; seed < runs / 80; seed++) {
+            new FuzzTest(seed, true).goFull(seed);
+        }
         Check.end("FuzzTest");
     }
 
@@ -91,10 +94,60 @@ public final class FuzzTest {
         return several;
     }
 
+    /** As many of everything as there can be, so that the last numbers of all meet. */
+    private void goFull(long seed) {
+        for (int k = 0; k < 13; k++) {
+            answer(seed, "addUser", random.nextInt(5) / 4, random.nextInt(256));
+            answer(seed, "addRole");
+        }
+        for (int k = 1; k < 25; k++) {
+            answer(seed, "addResource", seed % 2 == 0 ? k - 1 : random.nextInt(k));
+        }
+        for (int k = 0; k < 12; k++) {
+            answer(seed, "setApart", random.nextInt(12), random.nextInt(12));
+        }
+        for (int k = 0; k < 16; k++) {
+            answer(seed, "setHolds", random.nextInt(12), random.nextInt(12), true);
+            answer(seed, "setRole", random.nextInt(12), random.nextInt(12), true);
+            answer(seed, "setRole", 11, random.nextInt(12), true);
+        }
+        for (int k = 0; k < 31; k++) {
+            answer(seed, "addRule", random.nextInt(3) > 0, random.nextInt(24), 1 + random.nextInt(31),
+                    random.nextInt(24) / (1 + k % 4));
+            answer(seed, "setRule", k, random.nextBoolean(), random.nextInt(10));
+            answer(seed, "grant", random.nextInt(12), random.nextInt(12), READ, random.nextInt(24) / (1 + k % 4),
+                    random.nextInt(4), 100);
+        }
+        answer(seed, "setWall", 22, 3, 3);
+        answer(seed, "setWall", 23, 3, 2);
+        answer(seed, "setLabel", 21, 1);
+        for (int weighing = 0; weighing < 4; weighing++) {
+            answer(seed, "setWeighing", weighing);
+            askFull(seed);
+        }
+    }
+
+    private void askFull(long seed) {
+        for (int k = 0; k < 12; k++) {
+            answer(seed, "access", k, random.nextInt(5), 22 + k % 2);
+            answer(seed, "wouldGain", k, random.nextInt(12));
+        }
+        for (int k = 0; k < 4; k++) {
+            answer(seed, "rolesNeeded", random.nextInt(12), k, random.nextInt(24));
+            answer(seed, "isIdle", 26 + k);
+            answer(seed, "wouldDiffer", k);
+        }
+        answer(seed, "openness");
+        answer(seed, "who", READ, 23);
+        answer(seed, "reach", 11, READ);
+        answer(seed, "dropRule", random.nextInt(30));
+        answer(seed, "digest");
+    }
+
     private String answer(long seed, String name, Object... arguments) {
         String call = name + java.util.Arrays.toString(arguments);
         String due = ask(PLAIN.get(name), plain, arguments);
-        Check.same("there and back, seed " + seed + ": " + call, ask(GATE.get(name), gate, arguments), due);
+        Check.same("seed " + seed + ": " + call, ask(GATE.get(name), gate, arguments), due);
         return due.startsWith("throws") ? "" : due;
     }
 

@@ -1,16 +1,10 @@
-import java.math.BigInteger;
-import java.util.ArrayList;
-import java.util.List;
-
 /**
- * The sentences of promises 1 to 42 that name a boundary, one by one, but for what a call throws: that is told in
+ * The sentences of promises 1 to 33 that name a boundary, one by one, but for what a call throws: that is told in
  * RefusalTest. The answers are worked out by hand.
  */
 public final class PromiseEdgeTest {
     private static final int READ = 0;
     private static final int WRITE = 1;
-    private static final int MAKE = 2;
-    private static final int DROP = 3;
     private static final int SHARE = 4;
     private static final int ALL = 31;
     private static final int ROLE = 12;
@@ -28,7 +22,9 @@ public final class PromiseEdgeTest {
         setRole();
         setHolds();
         setApart();
+        apartAlready();
         setUser();
+        clearanceFromNowOn();
         setLabel();
         setWall();
         howMany();
@@ -39,7 +35,10 @@ public final class PromiseEdgeTest {
         setTerms();
         dropRule();
         dropRuleFromFull();
+        dropRuleInBetween();
+        dropRuleGoesWithAll();
         setWeighing();
+        weighingOfEachQuestion();
         matchesNow();
         goOn();
         grant();
@@ -50,51 +49,12 @@ public final class PromiseEdgeTest {
         whyRule();
         whyGrant();
         whyNothing();
+        whyNothingThoughGranted();
+        whyOfEach();
         access();
         counted();
         done();
-        who();
-        reach();
-        rolesNeededNone();
-        rolesNeededByNone();
-        rolesNeededTwo();
-        rolesNeededApart();
-        rolesNeededTwelve();
-        contradictions();
-        contradictionsNow();
-        isIdleWithoutUsers();
-        isIdleSame();
-        isIdleByGrants();
-        wouldDiffer();
-        wouldDifferByGrants();
-        wouldGain();
-        wouldGainAll();
-        wouldGainByGrants();
-        openness();
-        digestOfNew();
-        digestWraps();
         Check.end("PromiseEdgeTest");
-    }
-
-    /** A gate with users of clearance 0, roles, and a chain of resources 0, 1, 2, .. */
-    private static PolicyGate gate(int users, int roles, int resources) {
-        PolicyGate x = new PolicyGate();
-        for (int k = 0; k < users; k++) {
-            x.addUser(0, 0);
-        }
-        for (int k = 0; k < roles; k++) {
-            x.addRole();
-        }
-        for (int k = 1; k < resources; k++) {
-            x.addResource(k - 1);
-        }
-        return x;
-    }
-
-    private static int deepRule(PolicyGate x, boolean allows, int who, int actions, int resource) {
-        int rule = x.addRule(allows, who, actions, resource);
-        x.setRule(rule, true, 0);
-        return rule;
     }
 
     private static void newGate() {
@@ -120,7 +80,7 @@ public final class PromiseEdgeTest {
 
     private static void addUser() {
         Check.about("Promise 2: adds a user without roles; returns its number");
-        PolicyGate x = gate(0, 12, 1);
+        PolicyGate x = Gates.gate(0, 12, 1);
         for (int user = 0; user < 12; user++) {
             Check.same("the number", x.addUser(3, 255), user);
             for (int role = 0; role < 12; role++) {
@@ -150,7 +110,7 @@ public final class PromiseEdgeTest {
 
     private static void setRole() {
         Check.about("Promise 5: returns whether it was in its set");
-        PolicyGate x = gate(12, 12, 1);
+        PolicyGate x = Gates.gate(12, 12, 1);
         x.setHolds(10, 11, true);
         Check.same("not yet", x.setRole(11, 10, true), false);
         Check.same("had along another is not in the set", x.setRole(11, 11, true), false);
@@ -163,7 +123,7 @@ public final class PromiseEdgeTest {
 
     private static void setHolds() {
         Check.about("Promise 6: returns whether it did hold it");
-        PolicyGate x = gate(1, 12, 1);
+        PolicyGate x = Gates.gate(1, 12, 1);
         Check.same("not yet", x.setHolds(11, 10, true), false);
         Check.same("it did", x.setHolds(11, 10, true), true);
         Check.same("not the other way round", x.setHolds(10, 11, false), false);
@@ -176,12 +136,30 @@ public final class PromiseEdgeTest {
 
     private static void setApart() {
         Check.about("Promise 7: returns how many pairs are APART then");
-        PolicyGate x = gate(0, 12, 1);
+        PolicyGate x = Gates.gate(0, 12, 1);
         int pairs = 0;
         for (int role = 11; pairs < 10; role--) {
             pairs++;
             Check.same("pairs", x.setApart(11, role - 1), pairs);
         }
+    }
+
+    private static void apartAlready() {
+        Check.about("Promise 7: IllegalStateException if they are APART already, whichever came first");
+        PolicyGate x = Gates.gate(0, 12, 1);
+        for (int k = 1; k < 5; k++) {
+            x.setApart(0, k);
+            x.setApart(k + 4, 11);
+        }
+        for (int k = 1; k < 5; k++) {
+            int role = k;
+            Check.refused("0 and " + k, () -> x.setApart(0, role));
+            Check.refused(k + " and 0", () -> x.setApart(role, 0));
+            Check.refused((k + 4) + " and 11", () -> x.setApart(role + 4, 11));
+            Check.refused("11 and " + (k + 4), () -> x.setApart(11, role + 4));
+        }
+        Check.same("a new pair", x.setApart(8, 1), 9);
+        Check.same("a new pair", x.setApart(0, 11), 10);
     }
 
     private static void setUser() {
@@ -195,9 +173,28 @@ public final class PromiseEdgeTest {
         Check.same("another user's", x.setUser(1, 0, 1), 1);
     }
 
+    private static void clearanceFromNowOn() {
+        Check.about("Promises 2 and 8: its CLEARANCE");
+        PolicyGate x = new PolicyGate();
+        x.addUser(0, 0);
+        x.addUser(3, 0);
+        x.addUser(1, 0);
+        x.setLabel(0, 2);
+        Check.same("0", x.decide(0, READ, 0), 4);
+        Check.same("3", x.decide(1, READ, 0), 0);
+        Check.same("1", x.decide(2, READ, 0), 4);
+        for (int clearance = 0; clearance < 4; clearance++) {
+            x.setUser(2, clearance, 0);
+            Check.same("READ with " + clearance, x.decide(2, READ, 0), clearance < 2 ? 4 : 0);
+            Check.same("WRITE with " + clearance, x.decide(2, WRITE, 0), clearance > 2 ? 4 : 0);
+        }
+        Check.same("the others as before", x.decide(0, READ, 0), 4);
+        Check.same("the others as before", x.decide(1, WRITE, 0), 4);
+    }
+
     private static void setLabel() {
         Check.about("Promise 9: returns the one before");
-        PolicyGate x = gate(0, 0, 24);
+        PolicyGate x = Gates.gate(0, 0, 24);
         Check.same("0 at first", x.setLabel(23, 3), 0);
         Check.same("the greatest", x.setLabel(23, 0), 3);
         Check.same("the smallest", x.setLabel(23, 1), 0);
@@ -206,13 +203,13 @@ public final class PromiseEdgeTest {
 
     private static void setWall() {
         Check.about("Promise 10: -1 for none, its house is not looked at; returns whether it had a WALL");
-        PolicyGate x = gate(1, 0, 24);
+        PolicyGate x = Gates.gate(1, 0, 24);
         Check.same("none at first", x.setWall(23, -1, 4), false);
         Check.same("still none", x.setWall(23, 0, 0), false);
         Check.same("class 0, house 0 is one", x.setWall(23, 3, 3), true);
         Check.same("class 3, house 3 is one", x.setWall(23, -1, BIG), true);
         Check.same("none", x.setWall(23, -1, SMALL), false);
-        deepRule(x, true, 0, ALL, 0);
+        Gates.deepRule(x, true, 0, ALL, 0);
         x.setWall(1, 2, 0);
         x.access(0, READ, 1);
         x.setWall(2, 2, 1);
@@ -251,7 +248,7 @@ public final class PromiseEdgeTest {
 
     private static void near() {
         Check.about("Promise 14: by how much the user has it near; -1 if it does not HAVE it");
-        PolicyGate x = gate(12, 12, 1);
+        PolicyGate x = Gates.gate(12, 12, 1);
         for (int k = 11; k > 0; k--) {
             x.setHolds(k, k - 1, true);
         }
@@ -265,7 +262,7 @@ public final class PromiseEdgeTest {
 
     private static void far() {
         Check.about("Promise 15: by how much the one is FAR beneath the other; -1 if it is not beneath it");
-        PolicyGate x = gate(0, 0, 23);
+        PolicyGate x = Gates.gate(0, 0, 23);
         x.addResource(0);
         Check.same("itself", x.far(0, 0), 0);
         Check.same("the farthest", x.far(22, 0), 22);
@@ -277,7 +274,7 @@ public final class PromiseEdgeTest {
 
     private static void addRule() {
         Check.about("Promise 16: not DEEP, with the RANK 0, without TRAITS, for all hours; returns its number");
-        PolicyGate x = gate(1, 0, 2);
+        PolicyGate x = Gates.gate(1, 0, 2);
         for (int k = 0; k < 29; k++) {
             x.addRule(false, 0, 2, 0);
         }
@@ -297,7 +294,7 @@ public final class PromiseEdgeTest {
 
     private static void setRule() {
         Check.about("Promise 17: returns its RANK before");
-        PolicyGate x = gate(1, 0, 1);
+        PolicyGate x = Gates.gate(1, 0, 1);
         for (int k = 0; k < 30; k++) {
             x.addRule(true, 0, 1, 0);
         }
@@ -310,7 +307,7 @@ public final class PromiseEdgeTest {
 
     private static void setTerms() {
         Check.about("Promise 18: returns the TRAITS that one needed before");
-        PolicyGate x = gate(1, 0, 1);
+        PolicyGate x = Gates.gate(1, 0, 1);
         for (int k = 0; k < 30; k++) {
             x.addRule(true, 0, 1, 0);
         }
@@ -321,8 +318,8 @@ public final class PromiseEdgeTest {
     }
 
     private static void dropRule() {
-        Check.about("Promise 19: drops a RULE; those with greater numbers have one less; returns how many there are then");
-        PolicyGate x = gate(5, 0, 1);
+        Check.about("Promise 19: those with greater numbers have one less; returns how many there are then");
+        PolicyGate x = Gates.gate(5, 0, 1);
         for (int k = 0; k < 5; k++) {
             x.addRule(true, k, 1, 0);
             x.setRule(k, false, k + 1);
@@ -348,7 +345,7 @@ public final class PromiseEdgeTest {
 
     private static void dropRuleFromFull() {
         Check.about("Promise 19: of 30, each with all that is told of it");
-        PolicyGate x = gate(12, 0, 24);
+        PolicyGate x = Gates.gate(12, 0, 24);
         for (int k = 0; k < 30; k++) {
             x.addRule(k % 2 == 0, k % 12, 1 + k, k % 24);
             x.setRule(k, k % 3 == 0, k % 10);
@@ -362,10 +359,62 @@ public final class PromiseEdgeTest {
         for (int k = 1; k < 30; k++) {
             Check.same("rank of " + k, x.setRule(k - 1, k % 3 == 0, 0), k % 10);
             Check.same("traits of " + k, x.setTerms(k - 1, 0, 0, 23), k);
-            Check.same("its user and action " + k, x.matches(k - 1, k % 12, Integer.numberOfTrailingZeros(1 + k), k % 24),
-                    true);
+            int action = Integer.numberOfTrailingZeros(1 + k);
+            Check.same("its user and action " + k, x.matches(k - 1, k % 12, action, k % 24), true);
             Check.same("another user " + k, x.matches(k - 1, (k + 1) % 12, READ, k % 24), false);
         }
+    }
+
+    private static void dropRuleInBetween() {
+        Check.about("Promise 19: those with smaller numbers stay as they are");
+        PolicyGate x = Gates.gate(1, 0, 1);
+        x.setUser(0, 0, 1);
+        x.addRule(true, 0, 1, 0);
+        x.setTerms(0, 1, 1, 1);
+        x.addRule(true, 0, 1, 0);
+        x.setTerms(1, 2, 0, 6);
+        x.addRule(true, 0, 1, 0);
+        x.setTerms(2, 4, 7, 8);
+        x.dropRule(1);
+        Check.same("the hour before its first", x.matches(0, 0, READ, 0), false);
+        x.goOn(60);
+        Check.same("its hour", x.matches(0, 0, READ, 0), true);
+        x.goOn(60);
+        Check.same("the hour behind its last", x.matches(0, 0, READ, 0), false);
+        Check.same("its traits", x.setTerms(0, 0, 7, 7), 1);
+        Check.same("the traits of the one behind it", x.setTerms(1, 0, 7, 7), 4);
+    }
+
+    private static void dropRuleGoesWithAll() {
+        Check.about("Promise 19: what is told of a RULE goes with it to its new number");
+        PolicyGate x = Gates.gate(1, 0, 2);
+        x.addRule(true, 0, 1, 0);
+        x.addRule(false, 0, 1, 0);
+        x.setRule(1, true, 0);
+        x.setTerms(1, 0, 1, 2);
+        x.addRule(true, 0, 2, 1);
+        x.goOn(60);
+        x.dropRule(0);
+        Check.same("that it denies", x.decide(0, READ, 0), 2);
+        Check.same("that it is deep", x.decide(0, READ, 1), 2);
+        Check.same("that the next one is not", x.matches(1, 0, WRITE, 1), true);
+        Check.same("that the next one allows", x.decide(0, WRITE, 1), 1);
+        x.goOn(60);
+        Check.same("its last hour", x.decide(0, READ, 0), 2);
+        x.goOn(60);
+        Check.same("the hour behind it", x.decide(0, READ, 0), 0);
+        x.goOn(22 * 60);
+        Check.same("its first hour", x.decide(0, READ, 0), 2);
+        x.goOn(23 * 60);
+        Check.same("the hour before it", x.decide(0, READ, 0), 0);
+        x.dropRule(0);
+        x.dropRule(0);
+        x.addRule(true, 0, 1, 0);
+        Check.same("one that allows", x.decide(0, READ, 0), 1);
+        x.dropRule(0);
+        x.addRule(false, 0, 1, 0);
+        Check.same("then one that denies, by the same number", x.decide(0, READ, 0), 2);
+        Check.same("it is not deep", x.decide(0, READ, 1), 0);
     }
 
     private static void setWeighing() {
@@ -378,11 +427,47 @@ public final class PromiseEdgeTest {
         }
     }
 
+    private static void weighingOfEachQuestion() {
+        Check.about("Promise 21: from now on, whatever is asked");
+        PolicyGate x = Gates.gate(2, 1, 2);
+        x.setRole(0, 0, true);
+        Gates.deepRule(x, false, ROLE, 17, 0);
+        Gates.deepRule(x, true, ROLE, 17, 0);
+        x.addRule(true, 0, 17, 1);
+        Gates.deepRule(x, false, ROLE, 17, 0);
+        x.setRule(3, true, 5);
+        x.grant(0, 1, READ, 1, 0, 60);
+        byWeighing("why", x, y -> y.why(0, READ, 1), 0, 1, 2, 3);
+        byWeighing("decide", x, y -> y.decide(0, READ, 1), 2, 1, 1, 2);
+        byWeighing("isGood", x, y -> y.isGood(0) ? 1 : 0, 0, 1, 1, 0);
+        byWeighing("who", x, y -> y.who(READ, 1), 0, 3, 3, 0);
+        byWeighing("reach", x, y -> y.reach(0, READ), 0, 2, 1, 0);
+        byWeighing("rolesNeeded", x, y -> y.rolesNeeded(0, READ, 1), -1, 0, 0, -1);
+        byWeighing("isIdle", x, y -> y.isIdle(2) ? 1 : 0, 1, 1, 0, 1);
+        byWeighing("wouldDiffer", x, y -> y.wouldDiffer(1), 5, 0, 2, 5);
+        byWeighing("wouldGain", x, y -> y.wouldGain(0, 0), 0, 0, 0, 0);
+        byWeighing("openness, of 20", x, y -> (int) (y.openness() * 20.0 + 0.5), 0, 5, 3, 0);
+        byWeighing("matches", x, y -> y.matches(0, 0, READ, 1) ? 1 : 0, 1, 1, 1, 1);
+        byWeighing("contradictions", x, y -> y.contradictions(), 4, 4, 4, 4);
+        byWeighing("access", x, y -> y.access(0, READ, 1), 2, 1, 1, 2);
+    }
+
+    private interface Question {
+        int ask(PolicyGate x);
+    }
+
+    private static void byWeighing(String what, PolicyGate x, Question question, int... due) {
+        for (int weighing = 0; weighing < 4; weighing++) {
+            x.setWeighing(weighing);
+            Check.same(what + ", weighing " + weighing, question.ask(x), due[weighing]);
+        }
+    }
+
     private static void matchesNow() {
         Check.about("Promise 22: whether it MATCHES these now (neither label, wall nor weighing is asked)");
-        PolicyGate x = gate(1, 0, 2);
+        PolicyGate x = Gates.gate(1, 0, 2);
         x.addRule(false, 0, 1, 0);
-        deepRule(x, true, 0, ALL, 0);
+        Gates.deepRule(x, true, 0, ALL, 0);
         x.setWall(0, 0, 0);
         x.setWall(1, 0, 1);
         x.access(0, WRITE, 0);
@@ -413,7 +498,7 @@ public final class PromiseEdgeTest {
 
     private static void grant() {
         Check.about("Promise 25: adds a GRANT, GOOD or not; it ends in 1 to 10000 minutes; returns its number");
-        PolicyGate x = gate(2, 0, 24);
+        PolicyGate x = Gates.gate(2, 0, 24);
         Check.same("not good", x.grant(0, 1, SHARE, 23, 3, 10000), 0);
         Check.same("not good", x.isGood(0), false);
         x.addRule(true, 0, ALL, 23);
@@ -433,7 +518,7 @@ public final class PromiseEdgeTest {
 
     private static void revoke() {
         Check.about("Promise 26: ends a GRANT now; it keeps its number; returns whether it was there still");
-        PolicyGate x = gate(2, 0, 1);
+        PolicyGate x = Gates.gate(2, 0, 1);
         x.addRule(true, 0, 17, 0);
         for (int k = 0; k < 4; k++) {
             x.grant(0, 1, READ, 0, 0, 10);
@@ -457,7 +542,7 @@ public final class PromiseEdgeTest {
 
     private static void grantsEndedOrNot() {
         Check.about("Promise 27: how many GRANTS there are, ended or not");
-        PolicyGate x = gate(2, 0, 1);
+        PolicyGate x = Gates.gate(2, 0, 1);
         for (int k = 0; k < 30; k++) {
             x.grant(0, 1, READ, 0, 0, 1 + k % 2);
             x.revoke(k / 2);
@@ -469,7 +554,7 @@ public final class PromiseEdgeTest {
 
     private static void isGood() {
         Check.about("Promise 28: whether it is GOOD");
-        PolicyGate x = gate(3, 1, 1);
+        PolicyGate x = Gates.gate(3, 1, 1);
         x.addRule(true, ROLE, 17, 0);
         for (int k = 0; k < 30; k++) {
             x.grant(k % 2, 1 + k % 2, READ, 0, 3 - k % 2, 60);
@@ -487,7 +572,7 @@ public final class PromiseEdgeTest {
 
     private static void decide() {
         Check.about("Promise 29: what is DECIDED now, 0 to 5");
-        PolicyGate x = gate(12, 0, 24);
+        PolicyGate x = Gates.gate(12, 0, 24);
         Check.same("0", x.decide(11, SHARE, 23), 0);
         x.addRule(true, 0, ALL, 23);
         x.grant(0, 11, SHARE, 23, 0, 1);
@@ -507,7 +592,7 @@ public final class PromiseEdgeTest {
 
     private static void whyRule() {
         Check.about("Promise 30: with 1 and 2 the RULE");
-        PolicyGate x = gate(2, 0, 1);
+        PolicyGate x = Gates.gate(2, 0, 1);
         x.addRule(true, 0, 1, 0);
         Check.same("1, the first", x.why(0, READ, 0), 0);
         for (int k = 1; k < 29; k++) {
@@ -523,8 +608,8 @@ public final class PromiseEdgeTest {
 
     private static void whyGrant() {
         Check.about("Promise 30: with 3 the GOOD GRANT with the smallest number");
-        PolicyGate x = gate(3, 0, 2);
-        deepRule(x, true, 0, 17, 0);
+        PolicyGate x = Gates.gate(3, 0, 2);
+        Gates.deepRule(x, true, 0, 17, 0);
         x.grant(2, 1, READ, 0, 0, 60);
         x.grant(0, 1, READ, 0, 0, 1);
         x.grant(0, 1, READ, 1, 0, 60);
@@ -541,8 +626,8 @@ public final class PromiseEdgeTest {
 
     private static void whyNothing() {
         Check.about("Promise 30: -1 otherwise");
-        PolicyGate x = gate(2, 0, 3);
-        deepRule(x, true, 0, ALL, 0);
+        PolicyGate x = Gates.gate(2, 0, 3);
+        Gates.deepRule(x, true, 0, ALL, 0);
         Check.same("0", x.why(1, READ, 0), -1);
         x.setLabel(0, 1);
         Check.same("4, though a rule matches", x.why(0, READ, 0), -1);
@@ -553,12 +638,55 @@ public final class PromiseEdgeTest {
         x.grant(0, 1, READ, 1, 0, 60);
         Check.same("3", x.why(1, READ, 1), 0);
         x.setLabel(1, 3);
-        Check.same("4, though a grant stands", x.why(1, READ, 1), -1);
+        Check.same("4, though a grant stood", x.why(1, READ, 1), -1);
+    }
+
+    private static void whyNothingThoughGranted() {
+        Check.about("Promise 30: -1 with 4 and 5, whatever GOOD GRANT there is");
+        PolicyGate x = new PolicyGate();
+        x.addUser(1, 0);
+        x.addUser(0, 0);
+        x.addResource(0);
+        x.addResource(0);
+        Gates.deepRule(x, true, 0, ALL, 0);
+        x.grant(0, 1, READ, 1, 0, 60);
+        x.grant(0, 1, SHARE, 0, 0, 60);
+        x.setLabel(1, 1);
+        Check.same("it is good", x.isGood(0), true);
+        Check.same("4", x.decide(1, READ, 1), 4);
+        Check.same("why 4", x.why(1, READ, 1), -1);
+        x.setWall(1, 1, 1);
+        x.setWall(2, 1, 2);
+        x.access(1, SHARE, 1);
+        Check.same("it is good", x.isGood(1), true);
+        Check.same("5", x.decide(1, SHARE, 2), 5);
+        Check.same("why 5", x.why(1, SHARE, 2), -1);
+        Check.same("why 3", x.why(1, SHARE, 1), 1);
+    }
+
+    private static void whyOfEach() {
+        Check.about("Promise 30: of this user, this action and this resource");
+        PolicyGate x = Gates.gate(2, 2, 2);
+        x.setWeighing(2);
+        x.setHolds(0, 1, true);
+        x.setRole(0, 0, true);
+        x.setRole(0, 1, true);
+        x.setRole(1, 0, true);
+        x.addRule(false, ROLE + 1, 1, 0);
+        x.addRule(true, ROLE, 1, 0);
+        x.addRule(true, ROLE, 2, 1);
+        Check.same("user 0 has both near by 1", x.why(0, READ, 0), 0);
+        Check.same("user 1 has the one near by 2", x.why(1, READ, 0), 1);
+        Check.same("READ on 1", x.why(1, READ, 1), -1);
+        Check.same("WRITE on 1", x.why(1, WRITE, 1), 2);
+        x.setLabel(1, 1);
+        Check.same("READ on 1 is kept off", x.decide(1, READ, 1), 4);
+        Check.same("WRITE on 1 is not", x.why(1, WRITE, 1), 2);
     }
 
     private static void access() {
         Check.about("Promise 31: decides; if it is ALLOWED, the user has done it; and it is counted; what was DECIDED");
-        PolicyGate x = gate(12, 0, 24);
+        PolicyGate x = Gates.gate(12, 0, 24);
         x.addRule(true, 11, 16, 23);
         x.setWall(23, 3, 3);
         x.setWall(22, 3, 2);
@@ -576,7 +704,7 @@ public final class PromiseEdgeTest {
 
     private static void counted() {
         Check.about("Promise 32: how often access() told that");
-        PolicyGate x = gate(1, 0, 1);
+        PolicyGate x = Gates.gate(1, 0, 1);
         for (int k = 0; k < 500; k++) {
             x.access(0, k % 5, 0);
         }
@@ -587,8 +715,8 @@ public final class PromiseEdgeTest {
 
     private static void done() {
         Check.about("Promise 33: the set of actions that the user has done on it");
-        PolicyGate x = gate(12, 0, 24);
-        deepRule(x, true, 11, ALL, 0);
+        PolicyGate x = Gates.gate(12, 0, 24);
+        Gates.deepRule(x, true, 11, ALL, 0);
         Check.same("none", x.done(11, 23), 0);
         for (int action = 0; action < 5; action++) {
             x.access(11, action, 23);
@@ -600,439 +728,5 @@ public final class PromiseEdgeTest {
         x.setLabel(23, 3);
         x.access(11, READ, 23);
         Check.same("it stays done", x.done(11, 23), ALL);
-    }
-
-    private static void who() {
-        Check.about("Promise 34: the set of users to whom it is ALLOWED");
-        PolicyGate x = gate(12, 1, 24);
-        Check.same("none", x.who(SHARE, 23), 0);
-        x.addRule(true, ROLE, 16, 23);
-        x.setRole(11, 0, true);
-        Check.same("the last", x.who(SHARE, 23), 2048);
-        x.setRole(0, 0, true);
-        Check.same("the first and the last", x.who(SHARE, 23), 2049);
-        for (int user = 1; user < 11; user++) {
-            x.grant(0, user, SHARE, 23, 0, 60);
-        }
-        Check.same("all", x.who(SHARE, 23), 4095);
-        x.setRole(0, 0, false);
-        Check.same("without the first, the grants fall", x.who(SHARE, 23), 2048);
-        Check.same("without users", new PolicyGate().who(READ, 0), 0);
-    }
-
-    private static void reach() {
-        Check.about("Promise 35: on how many resources it is ALLOWED to it");
-        PolicyGate x = gate(2, 0, 24);
-        Check.same("none", x.reach(1, SHARE), 0);
-        x.addRule(true, 1, 16, 23);
-        Check.same("the last", x.reach(1, SHARE), 1);
-        x.addRule(true, 1, 16, 0);
-        Check.same("the first and the last", x.reach(1, SHARE), 2);
-        x.setRule(1, true, 0);
-        Check.same("all", x.reach(1, SHARE), 24);
-        Check.same("another action", x.reach(1, DROP), 0);
-        Check.same("another user", x.reach(0, SHARE), 0);
-        x.grant(1, 0, SHARE, 1, 0, 60);
-        Check.same("by a grant", x.reach(0, SHARE), 23);
-    }
-
-    private static void rolesNeededNone() {
-        Check.about("Promise 36: 0 if it is ALLOWED now");
-        PolicyGate x = gate(2, 1, 1);
-        x.addRule(true, 0, 17, 0);
-        Check.same("by a rule for itself", x.rolesNeeded(0, READ, 0), 0);
-        x.grant(0, 1, READ, 0, 0, 60);
-        Check.same("by a grant", x.rolesNeeded(1, READ, 0), 0);
-        x.addRule(true, ROLE, 2, 0);
-        x.setRole(1, 0, true);
-        Check.same("by a role that it has", x.rolesNeeded(1, WRITE, 0), 0);
-        Check.same("without roles at all", gateThatAllows().rolesNeeded(0, READ, 0), 0);
-    }
-
-    private static PolicyGate gateThatAllows() {
-        PolicyGate x = gate(1, 0, 1);
-        x.addRule(true, 0, 1, 0);
-        return x;
-    }
-
-    private static void rolesNeededByNone() {
-        Check.about("Promise 36: -1 if it is not by any");
-        PolicyGate x = gate(2, 0, 3);
-        Check.same("there are no roles", x.rolesNeeded(0, READ, 0), -1);
-        x.addRole();
-        x.addRole();
-        Check.same("there are no rules", x.rolesNeeded(0, READ, 0), -1);
-        x.addRule(false, ROLE, 1, 0);
-        Check.same("a role that denies", x.rolesNeeded(0, READ, 0), -1);
-        x.addRule(true, ROLE + 1, 1, 0);
-        Check.same("one that allows", x.rolesNeeded(0, READ, 0), 1);
-        x.setLabel(0, 1);
-        Check.same("a label", x.rolesNeeded(0, READ, 0), -1);
-        x.setUser(0, 1, 0);
-        x.setTerms(1, 1, 0, 23);
-        Check.same("a trait that it has not", x.rolesNeeded(0, READ, 0), -1);
-        x.setTerms(1, 0, 1, 23);
-        Check.same("not in this hour", x.rolesNeeded(0, READ, 0), -1);
-        x.goOn(60);
-        Check.same("in the next one", x.rolesNeeded(0, READ, 0), 1);
-        x.setRole(0, 0, true);
-        Check.same("the one that denies is in its set", x.rolesNeeded(0, READ, 0), -1);
-        x.setWeighing(1);
-        Check.same("but does not count", x.rolesNeeded(0, READ, 0), 1);
-        x.setWall(0, 0, 0);
-        x.setWall(1, 0, 1);
-        x.addRule(true, 0, 1, 2);
-        x.access(0, READ, 2);
-        Check.same("another wall", x.rolesNeeded(0, READ, 0), 1);
-        x.setWall(2, 0, 2);
-        Check.same("a wall", x.rolesNeeded(0, READ, 0), -1);
-    }
-
-    private static void rolesNeededTwo() {
-        Check.about("Promise 36: how many roles at least its set would need more");
-        PolicyGate x = gate(2, 12, 3);
-        x.addRule(true, ROLE + 11, 1, 0);
-        x.addRule(true, ROLE + 10, 16, 0);
-        x.grant(0, 1, READ, 0, 2, 60);
-        x.grant(1, 0, READ, 1, 1, 60);
-        Check.same("READ and SHARE for its own grant, which comes back", x.rolesNeeded(0, READ, 2), 2);
-        x.addRule(false, ROLE + 9, 1, 2);
-        Check.same("a third that denies is not needed", x.rolesNeeded(0, READ, 2), 2);
-        x.setHolds(8, 10, true);
-        x.setHolds(8, 11, true);
-        Check.same("one that holds both", x.rolesNeeded(0, READ, 2), 1);
-        x.setHolds(8, 9, true);
-        Check.same("it holds the one that denies, too", x.rolesNeeded(0, READ, 2), 2);
-        x.setRole(0, 11, true);
-        Check.same("it has one of the two", x.rolesNeeded(0, READ, 2), 1);
-        x.setRole(0, 10, true);
-        Check.same("it has both", x.rolesNeeded(0, READ, 2), 0);
-        x.setRole(0, 10, false);
-        x.revoke(1);
-        Check.same("nothing comes back", x.rolesNeeded(0, READ, 2), -1);
-        x.addRule(true, ROLE, 1, 2);
-        Check.same("a role on it itself", x.rolesNeeded(0, READ, 2), 1);
-    }
-
-    private static void rolesNeededApart() {
-        Check.about("Promise 36: and it would not HAVE two that are APART");
-        PolicyGate x = gate(2, 5, 2);
-        x.addRule(true, ROLE + 1, 1, 0);
-        x.addRule(true, ROLE + 2, 16, 0);
-        x.grant(0, 1, READ, 0, 1, 60);
-        x.grant(1, 0, READ, 0, 0, 60);
-        Check.same("two", x.rolesNeeded(0, READ, 1), 2);
-        x.setApart(1, 2);
-        Check.same("apart from each other", x.rolesNeeded(0, READ, 1), -1);
-        x.setHolds(3, 1, true);
-        Check.same("along another as well", x.rolesNeeded(0, READ, 1), -1);
-        Check.same("one alone", x.rolesNeeded(0, READ, 0), 1);
-        x.addRule(true, ROLE + 4, 17, 0);
-        Check.same("another gives both", x.rolesNeeded(0, READ, 1), 1);
-        x.setRole(0, 0, true);
-        x.setApart(0, 4);
-        Check.same("it is apart from what it has", x.rolesNeeded(0, READ, 1), -1);
-        Check.same("the others are not", x.rolesNeeded(0, READ, 0), 1);
-        x.setApart(0, 1);
-        Check.same("now they are", x.rolesNeeded(0, READ, 0), -1);
-        Check.same("another user has nothing that is apart", x.rolesNeeded(1, READ, 0), 1);
-    }
-
-    private static void rolesNeededTwelve() {
-        Check.about("Promise 36: of 12 roles in a chain, with ten pairs apart");
-        PolicyGate x = gate(12, 12, 24);
-        for (int k = 1; k < 12; k++) {
-            x.setHolds(k - 1, k, true);
-        }
-        x.addRule(true, ROLE + 11, 16, 23);
-        for (int k = 1; k < 11; k++) {
-            x.setApart(0, k);
-        }
-        Check.same("any but the first", x.rolesNeeded(11, SHARE, 23), 1);
-        x.setHolds(10, 11, false);
-        Check.same("the last alone", x.rolesNeeded(11, SHARE, 23), 1);
-        x.setRole(11, 1, true);
-        Check.same("besides another", x.rolesNeeded(11, SHARE, 23), 1);
-        x.setHolds(11, 0, true);
-        Check.same("it holds one that is apart", x.rolesNeeded(11, SHARE, 23), -1);
-        x.setHolds(0, 1, false);
-        Check.same("apart from what the user has", x.rolesNeeded(11, SHARE, 23), -1);
-        Check.same("but not for another", x.rolesNeeded(0, SHARE, 23), 1);
-    }
-
-    private static void contradictions() {
-        Check.about("Promise 37: how many pairs of RULES, one that allows and one that denies");
-        PolicyGate x = gate(1, 0, 1);
-        for (int k = 0; k < 30; k++) {
-            x.addRule(k % 2 == 0, 0, ALL, 0);
-            Check.same("of " + (k + 1), x.contradictions(), (k / 2 + 1) * ((k + 1) / 2));
-        }
-        Check.same("without users", withoutUsers().contradictions(), 0);
-    }
-
-    /** Rules for roles alone. */
-    private static PolicyGate withoutUsers() {
-        PolicyGate x = gate(0, 1, 1);
-        x.addRule(true, ROLE, ALL, 0);
-        x.addRule(false, ROLE, ALL, 0);
-        return x;
-    }
-
-    private static void contradictionsNow() {
-        Check.about("Promise 37: for which both MATCH the same user, action and resource now, for some");
-        PolicyGate x = gate(3, 2, 3);
-        deepRule(x, true, ROLE, 1 + 2, 1);
-        deepRule(x, false, ROLE + 1, 2 + 4, 2);
-        Check.same("nobody has a role", x.contradictions(), 0);
-        x.setRole(0, 0, true);
-        x.setRole(1, 1, true);
-        Check.same("nobody has both", x.contradictions(), 0);
-        x.setRole(2, 0, true);
-        x.setRole(2, 1, true);
-        Check.same("one has both", x.contradictions(), 1);
-        x.setTerms(0, 0, 0, 0);
-        x.setTerms(1, 0, 1, 1);
-        Check.same("never in the same hour", x.contradictions(), 0);
-        x.setTerms(1, 0, 1, 0);
-        Check.same("in this one", x.contradictions(), 1);
-        x.goOn(60);
-        Check.same("not in the next one", x.contradictions(), 0);
-        x.setTerms(0, 1, 0, 23);
-        Check.same("a trait that is missing", x.contradictions(), 0);
-        x.setUser(2, 0, 1);
-        Check.same("a trait that is there", x.contradictions(), 1);
-        x.setRule(0, false, 0);
-        Check.same("not on the same resource", x.contradictions(), 0);
-        x.setRule(0, true, 0);
-        x.addRule(false, ROLE + 1, 4 + 8 + 16, 2);
-        Check.same("not for the same action", x.contradictions(), 1);
-    }
-
-    private static void isIdleWithoutUsers() {
-        Check.about("Promise 38: about all users (there are none)");
-        Check.same("the first", withoutUsers().isIdle(0), true);
-        Check.same("the last", withoutUsers().isIdle(1), true);
-    }
-
-    private static void isIdleSame() {
-        Check.about("Promise 38: the same; 1 and 3 are not the same, but which RULE or GRANT it is does not count");
-        PolicyGate x = gate(12, 0, 24);
-        x.addRule(true, 11, 16, 23);
-        Check.same("the last user, action and resource", x.isIdle(0), false);
-        x.addRule(true, 11, 16, 23);
-        Check.same("there is another", x.isIdle(0), true);
-        Check.same("there is another", x.isIdle(1), true);
-        x.dropRule(1);
-        deepRule(x, true, 0, ALL, 0);
-        x.grant(0, 11, SHARE, 23, 0, 60);
-        Check.same("3 in the place of 1", x.isIdle(0), false);
-        x.addRule(false, 1, 1, 0);
-        Check.same("2 in the place of 0", x.isIdle(2), false);
-        x.setTerms(2, 0, 1, 1);
-        Check.same("not now", x.isIdle(2), true);
-        x.goOn(59);
-        Check.same("not yet", x.isIdle(2), true);
-        x.goOn(1);
-        Check.same("gone is the grant, now is the hour", x.isIdle(2), false);
-    }
-
-    private static void isIdleByGrants() {
-        Check.about("Promise 38: what would be is told with all GRANTS GOOD or not as they would be, too");
-        PolicyGate x = gate(3, 0, 1);
-        x.addRule(true, 0, 17, 0);
-        x.addRule(true, 0, 17, 0);
-        x.grant(0, 1, READ, 0, 1, 60);
-        x.grant(1, 2, READ, 0, 0, 60);
-        Check.same("the grants rest on the other", x.isIdle(0), true);
-        x.dropRule(1);
-        x.setWall(0, 0, 0);
-        x.addResource(0);
-        x.addRule(true, 0, 16, 1);
-        x.access(0, SHARE, 1);
-        x.setWall(1, 0, 1);
-        Check.same("the wall stands before it, and before the grant", x.isIdle(0), true);
-        x.setWall(1, -1, 0);
-        Check.same("without the wall", x.isIdle(0), false);
-        PolicyGate y = gate(3, 0, 1);
-        y.addRule(true, 0, 16, 0);
-        y.addRule(true, 0, 1, 0);
-        y.grant(0, 1, READ, 0, 1, 60);
-        y.addRule(false, 1, 16, 0);
-        y.addRule(true, 1, 1, 0);
-        y.grant(1, 2, READ, 0, 0, 60);
-        Check.same("the grant to another is good by a grant", y.isGood(1), true);
-        y.revoke(0);
-        Check.same("not any more", y.isGood(1), false);
-        y.addRule(false, 2, 1, 0);
-        Check.same("without it nothing is granted", y.isIdle(4), false);
-    }
-
-    private static void wouldDiffer() {
-        Check.about("Promise 39: about how many of all users, actions and resources something else would be DECIDED");
-        PolicyGate x = new PolicyGate();
-        for (int weighing = 0; weighing < 4; weighing++) {
-            Check.same("without users", x.wouldDiffer(weighing), 0);
-        }
-        PolicyGate y = gate(12, 1, 24);
-        deepRule(y, false, ROLE, ALL, 0);
-        deepRule(y, true, ROLE, ALL, 0);
-        for (int user = 0; user < 12; user++) {
-            y.setRole(user, 0, true);
-        }
-        Check.same("as it is", y.wouldDiffer(0), 0);
-        Check.same("all", y.wouldDiffer(1), 1440);
-        Check.same("none", y.wouldDiffer(2), 0);
-        Check.same("none", y.wouldDiffer(3), 0);
-        y.setWeighing(1);
-        Check.same("all, the other way round", y.wouldDiffer(0), 1440);
-        y.setRule(1, true, 1);
-        Check.same("rank allows as well", y.wouldDiffer(3), 0);
-        y.setRule(0, false, 0);
-        Check.same("nearest: but for the root", y.wouldDiffer(2), 60);
-        y.dropRule(0);
-        for (int weighing = 0; weighing < 4; weighing++) {
-            Check.same("with one rule", y.wouldDiffer(weighing), 0);
-        }
-    }
-
-    private static void wouldDifferByGrants() {
-        Check.about("Promise 39: what would be is told with all GRANTS GOOD or not as they would be, too");
-        PolicyGate x = gate(4, 0, 3);
-        deepRule(x, true, 0, 17, 0);
-        x.grant(0, 1, READ, 1, 1, 60);
-        x.grant(1, 2, READ, 2, 0, 60);
-        x.addRule(false, 0, 16, 1);
-        Check.same("READ on 1 and 2, READ on 2, and SHARE on 1", x.wouldDiffer(1), 4);
-        x.addRule(true, 2, 1, 2);
-        Check.same("which grant it is does not count, but a rule stands before", x.wouldDiffer(1), 3);
-        x.goOn(60);
-        Check.same("the grants have ended", x.wouldDiffer(1), 1);
-    }
-
-    private static void wouldGain() {
-        Check.about("Promise 40: for how many actions and resources; if that was in its set (APART or not)");
-        PolicyGate x = gate(2, 3, 2);
-        Check.same("without rules", x.wouldGain(0, 0), 0);
-        deepRule(x, true, ROLE, 3, 0);
-        Check.same("two on two", x.wouldGain(0, 0), 4);
-        x.setApart(0, 1);
-        x.setRole(0, 1, true);
-        Check.same("apart", x.wouldGain(0, 0), 4);
-        x.setHolds(2, 0, true);
-        Check.same("apart along another", x.wouldGain(0, 2), 4);
-        x.setRole(1, 0, true);
-        Check.same("it has it", x.wouldGain(1, 0), 0);
-        x.addRule(true, 0, 1, 0);
-        Check.same("what is allowed is no gain", x.wouldGain(0, 0), 3);
-        x.addRule(false, ROLE, 1, 0);
-        Check.same("what would be lost is not taken off", x.wouldGain(0, 0), 3);
-        x.setLabel(1, 1);
-        Check.same("what a label keeps off is no gain", x.wouldGain(0, 0), 2);
-        Check.same("its roles are as they were", x.near(0, 0), -1);
-    }
-
-    private static void wouldGainAll() {
-        Check.about("Promise 40: from none to all, and by a role that is nearer");
-        PolicyGate x = gate(12, 12, 24);
-        deepRule(x, true, ROLE + 11, ALL, 0);
-        Check.same("all", x.wouldGain(11, 11), 120);
-        Check.same("none", x.wouldGain(11, 10), 0);
-        x.setWeighing(2);
-        x.setRole(11, 9, true);
-        x.setHolds(9, 11, true);
-        deepRule(x, false, ROLE + 9, ALL, 0);
-        Check.same("denied by the nearer one", x.decide(11, READ, 0), 2);
-        Check.same("as near as that, it denies", x.wouldGain(11, 11), 0);
-        x.setHolds(10, 11, true);
-        Check.same("no nearer", x.wouldGain(11, 10), 0);
-        x.setHolds(8, 9, true);
-        x.setRole(11, 8, true);
-        x.setRole(11, 9, false);
-        Check.same("nearer than that, it allows all", x.wouldGain(11, 11), 120);
-    }
-
-    private static void wouldGainByGrants() {
-        Check.about("Promise 40: what would be is told with all GRANTS GOOD or not as they would be, too");
-        PolicyGate x = gate(3, 1, 3);
-        x.addRule(true, ROLE, 17, 0);
-        x.grant(0, 1, READ, 0, 1, 60);
-        x.grant(1, 0, READ, 1, 0, 60);
-        Check.same("READ and SHARE on 0, READ on 1 and 2 given back", x.wouldGain(0, 0), 4);
-        Check.same("the first would not be good by another", x.wouldGain(1, 0), 2);
-        x.revoke(1);
-        Check.same("nothing comes back", x.wouldGain(0, 0), 2);
-    }
-
-    private static void openness() {
-        Check.about("Promise 41: how many are, divided by how many there are, not cut; 0 without users");
-        PolicyGate x = gate(0, 1, 24);
-        Check.same("without users", x.openness(), 0.0);
-        for (int user = 0; user < 12; user++) {
-            x.addUser(0, 0);
-        }
-        Check.same("none", x.openness(), 0.0);
-        x.addRule(true, 11, 16, 23);
-        Check.same("one of all", x.openness(), 1.0 / 1440.0);
-        x.addRule(true, ROLE, ALL, 0);
-        x.setRule(1, true, 0);
-        for (int user = 0; user < 12; user++) {
-            x.setRole(user, 0, true);
-        }
-        Check.same("all", x.openness(), 1.0);
-        x.addRule(false, 0, 1, 0);
-        Check.same("all but one", x.openness(), 1439.0 / 1440.0);
-        x.setLabel(23, 3);
-        Check.same("READ of the last one is kept off from all", x.openness(), 1427.0 / 1440.0);
-    }
-
-    private static void digestOfNew() {
-        Check.about("Promise 42: a number d starts with 2579; d * 31 + v");
-        List<Integer> values = new ArrayList<>(List.of(0, 0, 1, 0, 0, 0));
-        values.add(0);
-        for (int decision = 0; decision < 6; decision++) {
-            values.add(0);
-        }
-        values.add(0);
-        Check.same("a new gate", new PolicyGate().digest(), wrapped(values));
-    }
-
-    /** As told, without a bound, and then cut to 64 bits. */
-    private static long wrapped(List<Integer> values) {
-        BigInteger d = BigInteger.valueOf(2579);
-        for (int v : values) {
-            d = d.multiply(BigInteger.valueOf(31)).add(BigInteger.valueOf(v));
-        }
-        return d.longValue();
-    }
-
-    private static void digestWraps() {
-        Check.about("Promise 42: which wraps around as a 64-bit integer, for each v in this order");
-        PolicyGate x = gate(2, 2, 2);
-        x.setHolds(0, 1, true);
-        x.setRole(1, 0, true);
-        x.addRule(true, ROLE + 1, 1 + 16, 0);
-        x.addRule(false, 1, 2, 0);
-        x.addRule(true, 1, 2 + 8, 0);
-        x.grant(1, 0, READ, 0, 0, 60);
-        x.grant(0, 1, READ, 0, 0, 60);
-        x.goOn(10);
-        x.access(1, READ, 0);
-        x.access(1, DROP, 0);
-        x.access(0, READ, 1);
-        x.access(0, MAKE, 1);
-        x.access(1, WRITE, 0);
-        List<Integer> values = new ArrayList<>(List.of(2, 2, 2, 3, 2, 10));
-        values.addAll(List.of(-1, -1, 1, 2));
-        values.addAll(List.of(0, 1));
-        values.addAll(List.of(1, 0));
-        values.addAll(List.of(3, 3, 0, 0, 0, 0, 0, 0, 0, 0));
-        values.addAll(List.of(1, 0, 2, 0, 0, 0, 1, 0, 1, 0));
-        values.addAll(List.of(0, 0, -1, -1, -1, -1, -1, -1, -1, -1));
-        values.addAll(List.of(0, -1, 1, -1, -1, -1, 2, -1, 0, -1));
-        values.addAll(List.of(1, 2, 1, 1, 0, 0));
-        values.addAll(List.of(0, 1));
-        values.addAll(List.of(1 + 8, 0));
-        values.add(1);
-        Check.same("the digest", x.digest(), wrapped(values));
     }
 }

@@ -66,27 +66,6 @@ public final class PromiseTest {
         Check.end("PromiseTest");
     }
 
-    /** A gate with users of clearance 0, roles, and a chain of resources 0, 1, 2, .. */
-    private static PolicyGate gate(int users, int roles, int resources) {
-        PolicyGate x = new PolicyGate();
-        for (int k = 0; k < users; k++) {
-            x.addUser(0, 0);
-        }
-        for (int k = 0; k < roles; k++) {
-            x.addRole();
-        }
-        for (int k = 1; k < resources; k++) {
-            x.addResource(k - 1);
-        }
-        return x;
-    }
-
-    private static int deepRule(PolicyGate x, boolean allows, int who, int actions, int resource) {
-        int rule = x.addRule(allows, who, actions, resource);
-        x.setRule(rule, true, 0);
-        return rule;
-    }
-
     // Promise 1
     private static void newGate() {
         PolicyGate x = new PolicyGate();
@@ -106,7 +85,7 @@ public final class PromiseTest {
 
     // Promise 2
     private static void addUser() {
-        PolicyGate x = gate(0, 12, 1);
+        PolicyGate x = Gates.gate(0, 12, 1);
         Check.illegal("clearance -1", () -> x.addUser(-1, 0));
         Check.illegal("clearance 4", () -> x.addUser(4, 0));
         Check.illegal("traits -1", () -> x.addUser(0, -1));
@@ -134,7 +113,7 @@ public final class PromiseTest {
 
     // Promise 3
     private static void addRole() {
-        PolicyGate x = gate(1, 0, 1);
+        PolicyGate x = Gates.gate(1, 0, 1);
         for (int k = 0; k < 12; k++) {
             Check.same("role", x.addRole(), k);
         }
@@ -167,7 +146,7 @@ public final class PromiseTest {
 
     // Promise 5
     private static void setRole() {
-        PolicyGate x = gate(2, 3, 1);
+        PolicyGate x = Gates.gate(2, 3, 1);
         for (int bad : NOBODY) {
             Check.outside("user " + bad, () -> x.setRole(bad, 0, true));
             Check.outside("role " + bad, () -> x.setRole(0, bad, true));
@@ -195,7 +174,7 @@ public final class PromiseTest {
 
     // Promise 6
     private static void setHolds() {
-        PolicyGate x = gate(1, 4, 1);
+        PolicyGate x = Gates.gate(1, 4, 1);
         for (int bad : NOBODY) {
             Check.outside("role " + bad, () -> x.setHolds(bad, 0, true));
             Check.outside("other " + bad, () -> x.setHolds(0, bad, true));
@@ -221,7 +200,7 @@ public final class PromiseTest {
     }
 
     private static void setHoldsWithApart() {
-        PolicyGate x = gate(2, 5, 1);
+        PolicyGate x = Gates.gate(2, 5, 1);
         x.setHolds(0, 1, true);
         x.setHolds(2, 3, true);
         x.setApart(3, 4);
@@ -240,7 +219,7 @@ public final class PromiseTest {
 
     // Promise 7
     private static void setApart() {
-        PolicyGate x = gate(1, 8, 1);
+        PolicyGate x = Gates.gate(1, 8, 1);
         for (int bad : NOBODY) {
             Check.outside("role " + bad, () -> x.setApart(bad, 0));
             Check.outside("other " + bad, () -> x.setApart(0, bad));
@@ -270,7 +249,7 @@ public final class PromiseTest {
 
     // Promise 8
     private static void setUser() {
-        PolicyGate x = gate(2, 1, 1);
+        PolicyGate x = Gates.gate(2, 1, 1);
         for (int bad : NOBODY) {
             Check.outside("user " + bad, () -> x.setUser(bad, 0, 0));
         }
@@ -297,7 +276,7 @@ public final class PromiseTest {
 
     // Promise 9
     private static void setLabel() {
-        PolicyGate x = gate(1, 0, 2);
+        PolicyGate x = Gates.gate(1, 0, 2);
         for (int bad : NOBODY) {
             Check.outside("resource " + bad, () -> x.setLabel(bad, 0));
         }
@@ -313,7 +292,7 @@ public final class PromiseTest {
 
     // Promise 10
     private static void setWall() {
-        PolicyGate x = gate(1, 0, 2);
+        PolicyGate x = Gates.gate(1, 0, 2);
         for (int bad : NOBODY) {
             Check.outside("resource " + bad, () -> x.setWall(bad, 0, 0));
         }
@@ -367,7 +346,7 @@ public final class PromiseTest {
 
     // Promise 14
     private static void near() {
-        PolicyGate x = gate(2, 12, 1);
+        PolicyGate x = Gates.gate(2, 12, 1);
         for (int bad : new int[] {-1, 2, 12, BIG, SMALL}) {
             Check.outside("user " + bad, () -> x.near(bad, 0));
         }
@@ -395,7 +374,7 @@ public final class PromiseTest {
 
     // Promise 15
     private static void far() {
-        PolicyGate x = gate(0, 0, 4);
+        PolicyGate x = Gates.gate(0, 0, 4);
         x.addResource(1);
         for (int bad : new int[] {-1, 5, 24, 32, BIG, SMALL}) {
             Check.outside("resource " + bad, () -> x.far(bad, 0));
@@ -412,7 +391,7 @@ public final class PromiseTest {
 
     // Promise 16
     private static void addRule() {
-        PolicyGate x = gate(2, 3, 2);
+        PolicyGate x = Gates.gate(2, 3, 2);
         for (int bad : new int[] {-1, 2, 11, 15, 23, 24, BIG, SMALL}) {
             Check.outside("who " + bad, () -> x.addRule(true, bad, 1, 0));
         }
@@ -456,7 +435,7 @@ public final class PromiseTest {
 
     // Promise 17
     private static void setRule() {
-        PolicyGate x = gate(1, 0, 3);
+        PolicyGate x = Gates.gate(1, 0, 3);
         x.addRule(true, 0, 1, 1);
         for (int bad : new int[] {-1, 1, 30, BIG, SMALL}) {
             Check.outside("rule " + bad, () -> x.setRule(bad, true, 0));
@@ -475,7 +454,7 @@ public final class PromiseTest {
 
     // Promise 18
     private static void setTerms() {
-        PolicyGate x = gate(1, 0, 1);
+        PolicyGate x = Gates.gate(1, 0, 1);
         x.addRule(true, 0, 1, 0);
         for (int bad : new int[] {-1, 1, 30, BIG, SMALL}) {
             Check.outside("rule " + bad, () -> x.setTerms(bad, 0, 0, 0));
@@ -495,7 +474,7 @@ public final class PromiseTest {
 
     // Promise 19
     private static void dropRule() {
-        PolicyGate x = gate(3, 1, 2);
+        PolicyGate x = Gates.gate(3, 1, 2);
         for (int bad : new int[] {-1, 0, 30, BIG, SMALL}) {
             Check.outside("rule " + bad, () -> x.dropRule(bad));
         }
@@ -526,7 +505,7 @@ public final class PromiseTest {
 
     // Promise 21
     private static void setWeighing() {
-        PolicyGate x = gate(1, 0, 1);
+        PolicyGate x = Gates.gate(1, 0, 1);
         for (int bad : new int[] {-1, 4, BIG, SMALL}) {
             Check.illegal("weighing " + bad, () -> x.setWeighing(bad));
         }
@@ -545,7 +524,7 @@ public final class PromiseTest {
 
     // Promise 22
     private static void matches() {
-        PolicyGate x = gate(3, 3, 3);
+        PolicyGate x = Gates.gate(3, 3, 3);
         x.addRule(true, 0, 1 + 4, 1);
         x.addRule(false, 12 + 2, 31, 0);
         for (int bad : new int[] {-1, 2, 30, BIG, SMALL}) {
@@ -579,7 +558,7 @@ public final class PromiseTest {
     }
 
     private static void hours() {
-        PolicyGate x = gate(1, 0, 1);
+        PolicyGate x = Gates.gate(1, 0, 1);
         x.addRule(true, 0, 1, 0);
         x.goOn(1440);
         for (int hour = 0; hour < 24; hour++) {
@@ -629,7 +608,7 @@ public final class PromiseTest {
 
     // Promise 25
     private static void grant() {
-        PolicyGate x = gate(3, 0, 3);
+        PolicyGate x = Gates.gate(3, 0, 3);
         for (int bad : new int[] {-1, 3, 12, BIG, SMALL}) {
             Check.outside("from " + bad, () -> x.grant(bad, 1, 0, 0, 0, 1));
             Check.outside("to " + bad, () -> x.grant(0, bad, 0, 0, 0, 1));
@@ -654,7 +633,7 @@ public final class PromiseTest {
         Check.refused("thirty-one", () -> x.grant(0, 1, 4, 2, 3, 10000));
         Check.illegal("first the arguments", () -> x.grant(0, 0, 4, 2, 3, 10000));
         Check.same("without the rights it is not good", x.isGood(29), false);
-        deepRule(x, true, 0, ALL, 0);
+        Gates.deepRule(x, true, 0, ALL, 0);
         Check.same("good later on", x.isGood(29), true);
         x.goOn(9999);
         Check.same("its last minute", x.isGood(29), true);
@@ -665,7 +644,7 @@ public final class PromiseTest {
 
     // Promise 26
     private static void revoke() {
-        PolicyGate x = gate(2, 0, 1);
+        PolicyGate x = Gates.gate(2, 0, 1);
         for (int bad : new int[] {-1, 0, 30, BIG, SMALL}) {
             Check.outside("grant " + bad, () -> x.revoke(bad));
         }
@@ -686,7 +665,7 @@ public final class PromiseTest {
 
     // Promise 28
     private static void isGoodByRight() {
-        PolicyGate x = gate(3, 0, 3);
+        PolicyGate x = Gates.gate(3, 0, 3);
         for (int bad : new int[] {-1, 0, 30, BIG, SMALL}) {
             Check.outside("grant " + bad, () -> x.isGood(bad));
         }
@@ -711,8 +690,8 @@ public final class PromiseTest {
         x.setWall(2, 0, 1);
         x.access(0, SHARE, 2);
         Check.same("the wall keeps the right off", x.isGood(1), false);
-        PolicyGate y = gate(3, 0, 2);
-        deepRule(y, true, 0, ALL, 0);
+        PolicyGate y = Gates.gate(3, 0, 2);
+        Gates.deepRule(y, true, 0, ALL, 0);
         y.grant(0, 1, READ, 0, 0, 100);
         y.addRule(true, 1, 16, 0);
         y.grant(1, 2, READ, 0, 0, 100);
@@ -721,8 +700,8 @@ public final class PromiseTest {
     }
 
     private static void isGoodPassedOn() {
-        PolicyGate x = gate(5, 0, 3);
-        deepRule(x, true, 0, ALL, 0);
+        PolicyGate x = Gates.gate(5, 0, 3);
+        Gates.deepRule(x, true, 0, ALL, 0);
         x.grant(1, 2, READ, 1, 0, 100);
         x.grant(0, 1, READ, 1, 2, 100);
         Check.same("only of a smaller number", x.isGood(0), false);
@@ -751,7 +730,7 @@ public final class PromiseTest {
 
     // Promise 29
     private static void decideByLabels() {
-        PolicyGate x = gate(3, 0, 3);
+        PolicyGate x = Gates.gate(3, 0, 3);
         wrongAsked("decide", x::decide);
         for (int clearance = 0; clearance < 4; clearance++) {
             for (int label = 0; label < 4; label++) {
@@ -765,7 +744,7 @@ public final class PromiseTest {
                 Check.same("SHARE" + at, x.decide(0, SHARE, 1), 0);
             }
         }
-        deepRule(x, true, 0, ALL, 0);
+        Gates.deepRule(x, true, 0, ALL, 0);
         x.setUser(0, 1, 0);
         x.setLabel(1, 2);
         Check.same("labels come before rules", x.decide(0, READ, 1), 4);
@@ -773,12 +752,12 @@ public final class PromiseTest {
     }
 
     private static void decideByWalls() {
-        PolicyGate x = gate(2, 0, 1);
+        PolicyGate x = Gates.gate(2, 0, 1);
         for (int k = 0; k < 4; k++) {
             x.addResource(0);
         }
-        deepRule(x, true, 0, ALL, 0);
-        deepRule(x, true, 1, ALL, 0);
+        Gates.deepRule(x, true, 0, ALL, 0);
+        Gates.deepRule(x, true, 1, ALL, 0);
         x.setWall(1, 0, 0);
         x.setWall(2, 0, 1);
         x.setWall(3, 1, 1);
@@ -811,8 +790,8 @@ public final class PromiseTest {
 
     /** The last user, resources, class and house. */
     private static void wallsOfTheLast() {
-        PolicyGate x = gate(12, 0, 24);
-        deepRule(x, true, 11, ALL, 0);
+        PolicyGate x = Gates.gate(12, 0, 24);
+        Gates.deepRule(x, true, 11, ALL, 0);
         x.setWall(23, 3, 3);
         x.setWall(22, 3, 2);
         x.setWall(21, 2, 2);
@@ -824,15 +803,15 @@ public final class PromiseTest {
     }
 
     private static void decideByDenyAndAllow() {
-        PolicyGate x = gate(3, 2, 3);
+        PolicyGate x = Gates.gate(3, 2, 3);
         x.setRole(0, 0, true);
-        deepRule(x, true, 0, 1, 0);
-        deepRule(x, true, 12, 1 + 2, 2);
+        Gates.deepRule(x, true, 0, 1, 0);
+        Gates.deepRule(x, true, 12, 1 + 2, 2);
         Check.same("allowed", x.decide(0, READ, 2), 1);
         Check.same("no rule", x.decide(0, MAKE, 2), 0);
         Check.same("no rule", x.decide(1, READ, 2), 0);
         Check.same("the smallest number", x.why(0, READ, 2), 0);
-        deepRule(x, false, 12, 1, 1);
+        Gates.deepRule(x, false, 12, 1, 1);
         x.addRule(false, 0, 1, 2);
         Check.same("DENY", x.decide(0, READ, 2), 2);
         Check.same("the smallest that denies", x.why(0, READ, 2), 2);
@@ -847,28 +826,28 @@ public final class PromiseTest {
     }
 
     private static void decideByNearest() {
-        PolicyGate x = gate(1, 4, 4);
+        PolicyGate x = Gates.gate(1, 4, 4);
         x.setWeighing(2);
         x.setHolds(0, 1, true);
         x.setHolds(1, 2, true);
         x.setRole(0, 0, true);
         x.setRole(0, 3, true);
-        deepRule(x, false, 0, ALL, 0);
+        Gates.deepRule(x, false, 0, ALL, 0);
         Check.same("the only one", x.why(0, READ, 3), 0);
-        deepRule(x, true, 12 + 2, ALL, 1);
+        Gates.deepRule(x, true, 12 + 2, ALL, 1);
         Check.same("less far, though by a role", x.why(0, READ, 3), 1);
         Check.same("where it does not match", x.why(0, READ, 0), 0);
-        deepRule(x, false, 12 + 1, ALL, 1);
+        Gates.deepRule(x, false, 12 + 1, ALL, 1);
         Check.same("as far, nearer role", x.why(0, READ, 3), 2);
-        deepRule(x, true, 12, ALL, 1);
+        Gates.deepRule(x, true, 12, ALL, 1);
         Check.same("as far, nearer role", x.why(0, READ, 3), 3);
         Check.same("it allows", x.decide(0, READ, 3), 1);
-        deepRule(x, false, 12 + 3, ALL, 1);
+        Gates.deepRule(x, false, 12 + 3, ALL, 1);
         Check.same("as far, as near: denying", x.why(0, READ, 3), 4);
         Check.same("it denies", x.decide(0, READ, 3), 2);
-        deepRule(x, true, 0, ALL, 1);
+        Gates.deepRule(x, true, 0, ALL, 1);
         Check.same("as far, the user itself", x.why(0, READ, 3), 5);
-        deepRule(x, false, 0, ALL, 1);
+        Gates.deepRule(x, false, 0, ALL, 1);
         Check.same("the user itself, denying", x.why(0, READ, 3), 6);
         x.addRule(true, 12 + 2, 1, 3);
         Check.same("its own resource", x.why(0, READ, 3), 7);
@@ -877,12 +856,12 @@ public final class PromiseTest {
         Check.same("one that does not match", x.why(0, READ, 3), 6);
         x.setTerms(7, 0, 0, 23);
         x.setRole(0, 2, true);
-        deepRule(x, false, 12 + 1, 1, 3);
+        Gates.deepRule(x, false, 12 + 1, 1, 3);
         Check.same("the least near counts", x.why(0, READ, 3), 7);
     }
 
     private static void decideByRank() {
-        PolicyGate x = gate(1, 0, 3);
+        PolicyGate x = Gates.gate(1, 0, 3);
         x.setWeighing(3);
         x.addRule(false, 0, 1, 0);
         x.addRule(true, 0, 1, 0);
@@ -902,8 +881,8 @@ public final class PromiseTest {
     }
 
     private static void decideByGrants() {
-        PolicyGate x = gate(3, 0, 3);
-        deepRule(x, true, 0, ALL, 0);
+        PolicyGate x = Gates.gate(3, 0, 3);
+        Gates.deepRule(x, true, 0, ALL, 0);
         x.grant(0, 1, READ, 1, 0, 60);
         Check.same("granted", x.decide(1, READ, 1), 3);
         Check.same("beneath", x.decide(1, READ, 2), 3);
@@ -926,10 +905,10 @@ public final class PromiseTest {
 
     // Promise 30
     private static void why() {
-        PolicyGate x = gate(3, 0, 3);
+        PolicyGate x = Gates.gate(3, 0, 3);
         wrongAsked("why", x::why);
         x.addRule(false, 2, 1, 0);
-        deepRule(x, true, 0, ALL, 0);
+        Gates.deepRule(x, true, 0, ALL, 0);
         x.grant(1, 2, READ, 0, 0, 60);
         x.grant(0, 1, READ, 2, 0, 60);
         x.grant(0, 1, READ, 1, 0, 60);
@@ -952,9 +931,9 @@ public final class PromiseTest {
 
     // Promise 31
     private static void access() {
-        PolicyGate x = gate(3, 0, 3);
+        PolicyGate x = Gates.gate(3, 0, 3);
         wrongAsked("access", x::access);
-        deepRule(x, true, 0, 1 + 4 + 16, 0);
+        Gates.deepRule(x, true, 0, 1 + 4 + 16, 0);
         x.addRule(false, 0, 2, 0);
         x.grant(0, 1, READ, 0, 0, 60);
         x.setLabel(2, 1);
@@ -981,7 +960,7 @@ public final class PromiseTest {
 
     // Promise 32
     private static void counted() {
-        PolicyGate x = gate(1, 0, 1);
+        PolicyGate x = Gates.gate(1, 0, 1);
         for (int bad : new int[] {-1, 6, BIG, SMALL}) {
             Check.illegal("decision " + bad, () -> x.counted(bad));
         }
@@ -1000,15 +979,15 @@ public final class PromiseTest {
 
     // Promise 33
     private static void done() {
-        PolicyGate x = gate(2, 0, 24);
+        PolicyGate x = Gates.gate(2, 0, 24);
         for (int bad : new int[] {-1, 2, 12, BIG, SMALL}) {
             Check.outside("user " + bad, () -> x.done(bad, 0));
         }
         for (int bad : new int[] {-1, 24, 32, BIG, SMALL}) {
             Check.outside("resource " + bad, () -> x.done(0, bad));
         }
-        deepRule(x, true, 0, ALL, 0);
-        deepRule(x, true, 1, ALL, 0);
+        Gates.deepRule(x, true, 0, ALL, 0);
+        Gates.deepRule(x, true, 1, ALL, 0);
         int due = 0;
         for (int action : new int[] {SHARE, READ, DROP, WRITE, MAKE}) {
             x.access(0, action, 23);
@@ -1026,7 +1005,7 @@ public final class PromiseTest {
 
     // Promise 34
     private static void who() {
-        PolicyGate x = gate(12, 1, 2);
+        PolicyGate x = Gates.gate(12, 1, 2);
         for (int bad : new int[] {-1, 5, BIG, SMALL}) {
             Check.outside("action " + bad, () -> x.who(bad, 0));
         }
@@ -1034,7 +1013,7 @@ public final class PromiseTest {
             Check.outside("resource " + bad, () -> x.who(0, bad));
         }
         Check.same("nobody", x.who(0, 0), 0);
-        deepRule(x, true, 0, ALL, 0);
+        Gates.deepRule(x, true, 0, ALL, 0);
         x.addRule(true, 12, 1, 0);
         x.addRule(false, 11, 1, 0);
         x.setRole(11, 0, true);
@@ -1047,7 +1026,7 @@ public final class PromiseTest {
 
     // Promise 35
     private static void reach() {
-        PolicyGate x = gate(3, 0, 4);
+        PolicyGate x = Gates.gate(3, 0, 4);
         for (int bad : new int[] {-1, 3, 12, BIG, SMALL}) {
             Check.outside("user " + bad, () -> x.reach(bad, 0));
         }
@@ -1055,7 +1034,7 @@ public final class PromiseTest {
             Check.outside("action " + bad, () -> x.reach(0, bad));
         }
         Check.same("nothing", x.reach(0, READ), 0);
-        deepRule(x, true, 0, ALL, 0);
+        Gates.deepRule(x, true, 0, ALL, 0);
         x.grant(0, 1, READ, 1, 0, 10);
         x.addRule(false, 0, 2, 3);
         Check.same("all", x.reach(0, READ), 4);
@@ -1066,7 +1045,7 @@ public final class PromiseTest {
 
     // Promise 36
     private static void rolesNeeded() {
-        PolicyGate x = gate(3, 4, 3);
+        PolicyGate x = Gates.gate(3, 4, 3);
         wrongAsked("rolesNeeded", x::rolesNeeded);
         Check.same("no rule", x.rolesNeeded(0, READ, 0), -1);
         x.addRule(true, 12 + 2, 1, 0);
@@ -1099,7 +1078,7 @@ public final class PromiseTest {
     }
 
     private static void rolesNeededWithApart() {
-        PolicyGate x = gate(1, 4, 1);
+        PolicyGate x = Gates.gate(1, 4, 1);
         x.addRule(true, 12 + 1, 1, 0);
         x.setRole(0, 0, true);
         x.setApart(0, 1);
@@ -1113,7 +1092,7 @@ public final class PromiseTest {
         x.setApart(3, 1);
         Check.same("a role apart from one it holds", x.rolesNeeded(0, READ, 0), -1);
 
-        PolicyGate y = gate(1, 2, 1);
+        PolicyGate y = Gates.gate(1, 2, 1);
         y.setWeighing(2);
         y.setHolds(0, 1, true);
         y.addRule(true, 13, 1, 0);
@@ -1129,7 +1108,7 @@ public final class PromiseTest {
 
     /** To read beneath 0, user 0 needs its own grant back: for that it needs two roles, READ and SHARE on 0. */
     private static void rolesNeededForGrants() {
-        PolicyGate x = gate(2, 4, 2);
+        PolicyGate x = Gates.gate(2, 4, 2);
         x.addRule(true, 12 + 1, 1, 0);
         x.addRule(true, 12 + 2, 16, 0);
         x.grant(0, 1, READ, 0, 1, 100);
@@ -1154,7 +1133,7 @@ public final class PromiseTest {
 
     // Promise 37
     private static void contradictions() {
-        PolicyGate x = gate(2, 2, 3);
+        PolicyGate x = Gates.gate(2, 2, 3);
         Check.same("none", x.contradictions(), 0);
         x.addRule(true, 0, 1 + 2, 1);
         x.addRule(true, 0, 1, 1);
@@ -1184,7 +1163,7 @@ public final class PromiseTest {
 
     // Promise 38
     private static void isIdle() {
-        PolicyGate x = gate(3, 1, 2);
+        PolicyGate x = Gates.gate(3, 1, 2);
         for (int bad : new int[] {-1, 0, 30, BIG, SMALL}) {
             Check.outside("rule " + bad, () -> x.isIdle(bad));
         }
@@ -1211,7 +1190,7 @@ public final class PromiseTest {
         x.setLabel(0, 1);
         Check.same("labels stand before it", x.isIdle(0), true);
 
-        PolicyGate y = gate(3, 1, 1);
+        PolicyGate y = Gates.gate(3, 1, 1);
         y.setWall(0, 0, 0);
         y.addResource(0);
         y.setRole(0, 0, true);
@@ -1227,12 +1206,12 @@ public final class PromiseTest {
 
     // Promise 39
     private static void wouldDiffer() {
-        PolicyGate x = gate(2, 1, 2);
+        PolicyGate x = Gates.gate(2, 1, 2);
         for (int bad : new int[] {-1, 4, BIG, SMALL}) {
             Check.illegal("weighing " + bad, () -> x.wouldDiffer(bad));
         }
-        deepRule(x, false, 0, 1 + 16, 0);
-        deepRule(x, true, 0, 1 + 16, 0);
+        Gates.deepRule(x, false, 0, 1 + 16, 0);
+        Gates.deepRule(x, true, 0, 1 + 16, 0);
         x.setRule(1, true, 5);
         Check.same("as it is", x.wouldDiffer(0), 0);
         Check.same("ALLOW: two actions on two", x.wouldDiffer(1), 4);
@@ -1250,7 +1229,7 @@ public final class PromiseTest {
 
     // Promise 40
     private static void wouldGain() {
-        PolicyGate x = gate(2, 3, 3);
+        PolicyGate x = Gates.gate(2, 3, 3);
         for (int bad : new int[] {-1, 2, 12, BIG, SMALL}) {
             Check.outside("user " + bad, () -> x.wouldGain(bad, 0));
         }
@@ -1258,7 +1237,7 @@ public final class PromiseTest {
             Check.outside("role " + bad, () -> x.wouldGain(0, bad));
         }
         Check.same("nothing", x.wouldGain(0, 0), 0);
-        deepRule(x, true, 12 + 1, 1 + 2, 1);
+        Gates.deepRule(x, true, 12 + 1, 1 + 2, 1);
         x.setHolds(0, 1, true);
         Check.same("two actions on two", x.wouldGain(0, 1), 4);
         Check.same("along another", x.wouldGain(0, 0), 4);
@@ -1273,7 +1252,7 @@ public final class PromiseTest {
         x.addRule(true, 0, 16, 0);
         Check.same("losses are not counted", x.wouldGain(0, 1), 3);
 
-        PolicyGate y = gate(2, 1, 2);
+        PolicyGate y = Gates.gate(2, 1, 2);
         y.addRule(true, 12, 17, 0);
         y.grant(0, 1, READ, 0, 1, 100);
         y.grant(1, 0, READ, 0, 0, 100);
@@ -1297,7 +1276,7 @@ public final class PromiseTest {
         x.addRule(true, 0, 16, 1);
         x.grant(0, 1, READ, 1, 0, 10);
         Check.same("rules and grants", x.openness(), 5.0 / 30);
-        PolicyGate y = gate(1, 0, 1);
+        PolicyGate y = Gates.gate(1, 0, 1);
         y.addRule(true, 0, 31, 0);
         Check.same("all", y.openness(), 1.0);
     }
@@ -1346,9 +1325,9 @@ public final class PromiseTest {
     }
 
     private static void askingChangesNothing() {
-        PolicyGate x = gate(4, 4, 4);
-        deepRule(x, true, 12, ALL, 0);
-        deepRule(x, false, 13, 1, 2);
+        PolicyGate x = Gates.gate(4, 4, 4);
+        Gates.deepRule(x, true, 12, ALL, 0);
+        Gates.deepRule(x, false, 13, 1, 2);
         x.setRole(0, 0, true);
         x.setHolds(0, 1, true);
         x.grant(0, 2, READ, 1, 2, 500);

@@ -251,7 +251,7 @@ public final class RefusalTest {
         needs("traits", ILLEGAL, 0, 255, (x, v) -> x.addUser(0, v));
         Check.about("Promise 2: IllegalStateException if there are 12");
         refused("the thirteenth", FULL, REFUSED, x -> x.addUser(3, 255));
-        taken("the twelfth", () -> gate(11, 0, 1), x -> x.addUser(3, 255));
+        taken("the twelfth", () -> Gates.gate(11, 0, 1), x -> x.addUser(3, 255));
         Check.about("addUser: the exception that is named first");
         refused("clearance, full", FULL, ILLEGAL, x -> x.addUser(4, 0));
         refused("traits, full", FULL, ILLEGAL, x -> x.addUser(0, 256));
@@ -260,7 +260,7 @@ public final class RefusalTest {
     private static void addRole() {
         Check.about("Promise 3: IllegalStateException if there are 12");
         refused("the thirteenth", FULL, REFUSED, PolicyGate::addRole);
-        taken("the twelfth", () -> gate(0, 11, 1), PolicyGate::addRole);
+        taken("the twelfth", () -> Gates.gate(0, 11, 1), PolicyGate::addRole);
     }
 
     private static void addResource() {
@@ -268,7 +268,7 @@ public final class RefusalTest {
         needs("the parent", OUTSIDE, 0, RESOURCES - 1, (x, v) -> x.addResource(v));
         Check.about("Promise 4: IllegalStateException if there are 24");
         refused("the twenty-fifth", FULL, REFUSED, x -> x.addResource(23));
-        taken("the twenty-fourth", () -> gate(0, 0, 23), x -> x.addResource(22));
+        taken("the twenty-fourth", () -> Gates.gate(0, 0, 23), x -> x.addResource(22));
         Check.about("addResource: the exception that is named first");
         refused("no parent, full", FULL, OUTSIDE, x -> x.addResource(24));
         refused("no parent, full", FULL, OUTSIDE, x -> x.addResource(-1));
@@ -329,7 +329,7 @@ public final class RefusalTest {
         Check.about("setHolds: the exception that is named first");
         refused("there is none, both are the same", RICH, OUTSIDE, x -> x.setHolds(5, 5, true));
         refused("there is none, both are the same", RICH, OUTSIDE, x -> x.setHolds(-1, -1, false));
-        PolicyGate x = gate(1, 2, 1);
+        PolicyGate x = Gates.gate(1, 2, 1);
         x.setHolds(0, 1, true);
         x.setApart(0, 1);
         x.setRole(0, 1, true);
@@ -367,7 +367,7 @@ public final class RefusalTest {
     }
 
     private static PolicyGate ninePairs() {
-        PolicyGate x = gate(0, 12, 1);
+        PolicyGate x = Gates.gate(0, 12, 1);
         for (int k = 1; k < 10; k++) {
             x.setApart(0, k);
         }
@@ -624,23 +624,8 @@ public final class RefusalTest {
         refused("wouldGain", made, OUTSIDE, x -> x.wouldGain(0, 0));
     }
 
-    /** A gate with users, roles, and a chain of resources. */
-    private static PolicyGate gate(int users, int roles, int resources) {
-        PolicyGate x = new PolicyGate();
-        for (int k = 0; k < users; k++) {
-            x.addUser(0, 0);
-        }
-        for (int k = 0; k < roles; k++) {
-            x.addRole();
-        }
-        for (int k = 1; k < resources; k++) {
-            x.addResource(k - 1);
-        }
-        return x;
-    }
-
     private static PolicyGate withRules(int rules) {
-        PolicyGate x = gate(1, 0, 1);
+        PolicyGate x = Gates.gate(1, 0, 1);
         for (int k = 0; k < rules; k++) {
             x.addRule(false, 0, 1, 0);
         }
@@ -648,7 +633,7 @@ public final class RefusalTest {
     }
 
     private static PolicyGate withGrants(int grants) {
-        PolicyGate x = gate(2, 0, 1);
+        PolicyGate x = Gates.gate(2, 0, 1);
         for (int k = 0; k < grants; k++) {
             x.grant(0, 1, 0, 0, 0, 1);
         }

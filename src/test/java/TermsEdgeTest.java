@@ -54,25 +54,11 @@ public final class TermsEdgeTest {
         passedOnWhateverIsDecided();
         decidedByLabel();
         decidedByWall();
+        wallsOfOthers();
         wallsAsTheyAreNow();
         decidedInOrder();
         allowedWithOneAndThree();
         Check.end("TermsEdgeTest");
-    }
-
-    /** A gate with users of clearance 0, roles, and a chain of resources 0, 1, 2, .. */
-    private static PolicyGate gate(int users, int roles, int resources) {
-        PolicyGate x = new PolicyGate();
-        for (int k = 0; k < users; k++) {
-            x.addUser(0, 0);
-        }
-        for (int k = 0; k < roles; k++) {
-            x.addRole();
-        }
-        for (int k = 1; k < resources; k++) {
-            x.addResource(k - 1);
-        }
-        return x;
     }
 
     /** Each role holds the next one. */
@@ -81,12 +67,6 @@ public final class TermsEdgeTest {
             x.setHolds(k - 1, k, true);
         }
         return x;
-    }
-
-    private static int deepRule(PolicyGate x, boolean allows, int who, int actions, int resource) {
-        int rule = x.addRule(allows, who, actions, resource);
-        x.setRule(rule, true, 0);
-        return rule;
     }
 
     private static void calls() {
@@ -101,7 +81,7 @@ public final class TermsEdgeTest {
 
     private static void clockAndHour() {
         Check.about("The CLOCK is at the minute 0 at first");
-        PolicyGate x = gate(1, 0, 1);
+        PolicyGate x = Gates.gate(1, 0, 1);
         Check.same("the clock", x.clock(), 0);
         x.addRule(true, 0, 1, 0);
         x.setTerms(0, 0, 0, 0);
@@ -133,7 +113,7 @@ public final class TermsEdgeTest {
 
     private static void traits() {
         Check.about("a set of TRAITS, 0 to 255: the user has all TRAITS it needs");
-        PolicyGate x = gate(1, 0, 1);
+        PolicyGate x = Gates.gate(1, 0, 1);
         x.addRule(true, 0, 1, 0);
         Check.same("none needed, none had", x.matches(0, 0, READ, 0), true);
         for (int trait = 0; trait < 8; trait++) {
@@ -153,7 +133,7 @@ public final class TermsEdgeTest {
 
     private static void neverItself() {
         Check.about("A role can hold other roles, but never, along however many, itself");
-        PolicyGate x = withChain(gate(0, 12, 1), 12);
+        PolicyGate x = withChain(Gates.gate(0, 12, 1), 12);
         for (int last = 1; last < 12; last++) {
             int role = last;
             Check.illegal("along " + last, () -> x.setHolds(role, 0, true));
@@ -170,7 +150,7 @@ public final class TermsEdgeTest {
 
     private static void near() {
         Check.about("NEAR by 1, if it is in the set, by n + 1, if it is held by one that it has near by n; the least");
-        PolicyGate x = withChain(gate(1, 12, 1), 11);
+        PolicyGate x = withChain(Gates.gate(1, 12, 1), 11);
         Check.same("not at all", x.near(0, 0), -1);
         x.setRole(0, 0, true);
         Check.same("in the set", x.near(0, 0), 1);
@@ -194,7 +174,7 @@ public final class TermsEdgeTest {
 
     private static void hasByAnyNumber() {
         Check.about("A user HAS all roles that it has near by any number");
-        PolicyGate x = withChain(gate(2, 12, 1), 12);
+        PolicyGate x = withChain(Gates.gate(2, 12, 1), 12);
         x.addRule(true, ROLE + 11, 1, 0);
         Check.same("without a role", x.decide(0, READ, 0), 0);
         x.setRole(0, 0, true);
@@ -209,7 +189,7 @@ public final class TermsEdgeTest {
 
     private static void tenPairs() {
         Check.about("At most 10 pairs of roles are APART");
-        PolicyGate x = gate(1, 12, 1);
+        PolicyGate x = Gates.gate(1, 12, 1);
         for (int k = 1; k <= 10; k++) {
             Check.same("pair " + k, x.setApart(k - 1, k), k);
         }
@@ -224,7 +204,7 @@ public final class TermsEdgeTest {
 
     private static void apartForNoUser() {
         Check.about("no user may HAVE both of a pair; what would make one have both is refused");
-        PolicyGate x = gate(12, 12, 1);
+        PolicyGate x = Gates.gate(12, 12, 1);
         x.setApart(10, 11);
         x.setRole(11, 10, true);
         Check.refused("given to the last user", () -> x.setRole(11, 11, true));
@@ -256,8 +236,8 @@ public final class TermsEdgeTest {
     }
 
     private static void beneath() {
-        Check.about("A resource is beneath another one, if that is it itself, or its parent is beneath that; FAR by steps");
-        PolicyGate x = gate(0, 0, 24);
+        Check.about("beneath another one, if that is it itself, or its parent is beneath that; FAR by the steps up");
+        PolicyGate x = Gates.gate(0, 0, 24);
         Check.same("itself", x.far(23, 23), 0);
         Check.same("its parent", x.far(23, 22), 1);
         Check.same("the root, the longest way", x.far(23, 0), 23);
@@ -267,7 +247,7 @@ public final class TermsEdgeTest {
 
     private static void labels() {
         Check.about("Each has a LABEL, 0 to 3 (0 at first)");
-        PolicyGate x = gate(1, 0, 24);
+        PolicyGate x = Gates.gate(1, 0, 24);
         Check.same("the root", x.setLabel(0, 3), 0);
         Check.same("the last one, whatever its parent has", x.setLabel(23, 3), 0);
         for (int label = 0; label < 4; label++) {
@@ -278,8 +258,8 @@ public final class TermsEdgeTest {
 
     private static void walls() {
         Check.about("a WALL: a class, 0 to 3, and a house, 0 to 3, or none (at first)");
-        PolicyGate x = gate(1, 0, 3);
-        deepRule(x, true, 0, ALL, 0);
+        PolicyGate x = Gates.gate(1, 0, 3);
+        Gates.deepRule(x, true, 0, ALL, 0);
         x.access(0, READ, 1);
         x.setWall(2, 0, 1);
         Check.same("none is not class 0, house 0", x.decide(0, READ, 2), 1);
@@ -302,7 +282,7 @@ public final class TermsEdgeTest {
 
     private static void actions() {
         Check.about("Actions: 0 READ, 1 WRITE, 2 MAKE, 3 DROP, 4 SHARE; the action is in its set");
-        PolicyGate x = gate(1, 0, 1);
+        PolicyGate x = Gates.gate(1, 0, 1);
         for (int action = 0; action < 5; action++) {
             x.addRule(true, 0, 1 << action, 0);
             x.addRule(true, 0, ALL - (1 << action), 0);
@@ -315,7 +295,7 @@ public final class TermsEdgeTest {
 
     private static void thirtyRules() {
         Check.about("At most 30 RULES, numbered from 0");
-        PolicyGate x = gate(12, 12, 24);
+        PolicyGate x = Gates.gate(12, 12, 24);
         for (int k = 0; k < 29; k++) {
             Check.same("rule", x.addRule(true, k % 12, 1 + 2, 23), k);
         }
@@ -333,7 +313,7 @@ public final class TermsEdgeTest {
 
     private static void ranks() {
         Check.about("it has a RANK, 0 to 9");
-        PolicyGate x = gate(1, 0, 1);
+        PolicyGate x = Gates.gate(1, 0, 1);
         x.setWeighing(RANK);
         x.addRule(false, 0, 1, 0);
         x.addRule(true, 0, 1, 0);
@@ -348,7 +328,7 @@ public final class TermsEdgeTest {
 
     private static void hours() {
         Check.about("it holds from the first one up to the last one, both counted (past midnight, if last < first)");
-        PolicyGate x = gate(1, 0, 1);
+        PolicyGate x = Gates.gate(1, 0, 1);
         int[][] terms = {{0, 0}, {23, 23}, {0, 23}, {23, 0}, {8, 7}, {7, 8}, {12, 12}, {1, 22}, {22, 1}, {13, 11}};
         for (int[] hours : terms) {
             int rule = x.addRule(true, 0, 1, 0);
@@ -376,11 +356,11 @@ public final class TermsEdgeTest {
 
     private static void whereARuleMatches() {
         Check.about("the resource is its own, or it is DEEP and the resource is beneath its own");
-        PolicyGate x = gate(1, 0, 24);
+        PolicyGate x = Gates.gate(1, 0, 24);
         x.addRule(true, 0, 1, 1);
-        deepRule(x, true, 0, 1, 1);
-        deepRule(x, true, 0, 1, 0);
-        deepRule(x, true, 0, 1, 23);
+        Gates.deepRule(x, true, 0, 1, 1);
+        Gates.deepRule(x, true, 0, 1, 0);
+        Gates.deepRule(x, true, 0, 1, 23);
         Check.same("its own, not deep", x.matches(0, 0, READ, 1), true);
         Check.same("its own, deep", x.matches(1, 0, READ, 1), true);
         Check.same("beneath, not deep", x.matches(0, 0, READ, 2), false);
@@ -394,7 +374,7 @@ public final class TermsEdgeTest {
 
     private static void forWhomARuleMatches() {
         Check.about("it is for that user, or a role that it HAS");
-        PolicyGate x = gate(12, 12, 1);
+        PolicyGate x = Gates.gate(12, 12, 1);
         for (int k = 0; k < 12; k++) {
             x.addRule(true, k, 1, 0);
             x.addRule(true, ROLE + k, 1, 0);
@@ -411,7 +391,7 @@ public final class TermsEdgeTest {
 
     private static void none() {
         Check.about("0: otherwise (no RULE matches, whatever the way of weighing)");
-        PolicyGate x = gate(1, 0, 2);
+        PolicyGate x = Gates.gate(1, 0, 2);
         x.addRule(false, 0, 2, 0);
         x.addRule(true, 0, 1, 1);
         for (int weighing = 0; weighing < 4; weighing++) {
@@ -423,12 +403,12 @@ public final class TermsEdgeTest {
 
     private static void deny() {
         Check.about("0 DENY: the smallest number of those that deny, if there are any, otherwise of those that allow");
-        PolicyGate x = gate(1, 1, 2);
+        PolicyGate x = Gates.gate(1, 1, 2);
         x.setRole(0, 0, true);
-        deepRule(x, true, ROLE, 1, 0);
+        Gates.deepRule(x, true, ROLE, 1, 0);
         x.addRule(true, 0, 1, 1);
         Check.same("none denies", x.why(0, READ, 1), 0);
-        deepRule(x, false, ROLE, 1, 0);
+        Gates.deepRule(x, false, ROLE, 1, 0);
         x.addRule(false, 0, 1, 1);
         x.setRule(3, false, 9);
         Check.same("two deny, neither far nor rank counts", x.why(0, READ, 1), 2);
@@ -440,14 +420,14 @@ public final class TermsEdgeTest {
 
     private static void allow() {
         Check.about("1 ALLOW: likewise, those that allow first");
-        PolicyGate x = gate(1, 1, 2);
+        PolicyGate x = Gates.gate(1, 1, 2);
         x.setWeighing(ALLOW);
         x.setRole(0, 0, true);
-        deepRule(x, false, ROLE, 1, 0);
+        Gates.deepRule(x, false, ROLE, 1, 0);
         x.addRule(false, 0, 1, 1);
         Check.same("none allows", x.why(0, READ, 1), 0);
         Check.same("it denies", x.decide(0, READ, 1), 2);
-        deepRule(x, true, ROLE, 1, 0);
+        Gates.deepRule(x, true, ROLE, 1, 0);
         x.addRule(true, 0, 1, 1);
         x.setRule(3, false, 9);
         Check.same("two allow, neither far nor rank counts", x.why(0, READ, 1), 2);
@@ -459,14 +439,14 @@ public final class TermsEdgeTest {
 
     private static void nearestFar() {
         Check.about("2 NEAREST: of those whose resource the given one is beneath by the least FAR");
-        PolicyGate x = withChain(gate(1, 12, 24), 12);
+        PolicyGate x = withChain(Gates.gate(1, 12, 24), 12);
         x.setWeighing(NEAREST);
         x.setRole(0, 0, true);
-        deepRule(x, false, 0, 1, 0);
+        Gates.deepRule(x, false, 0, 1, 0);
         Check.same("far by 23", x.decide(0, READ, 23), 2);
-        deepRule(x, true, ROLE + 11, 1, 1);
+        Gates.deepRule(x, true, ROLE + 11, 1, 1);
         Check.same("far by 22, though near by 12", x.decide(0, READ, 23), 1);
-        deepRule(x, false, 0, 1, 22);
+        Gates.deepRule(x, false, 0, 1, 22);
         Check.same("far by 1", x.decide(0, READ, 23), 2);
         x.addRule(true, ROLE + 11, 1, 23);
         Check.same("far by 0, though near by 12", x.decide(0, READ, 23), 1);
@@ -478,7 +458,7 @@ public final class TermsEdgeTest {
 
     private static void nearestUser() {
         Check.about("2 NEAREST: those that are for the user itself, if there are any");
-        PolicyGate x = gate(1, 1, 1);
+        PolicyGate x = Gates.gate(1, 1, 1);
         x.setWeighing(NEAREST);
         x.setRole(0, 0, true);
         x.addRule(false, ROLE, 1, 0);
@@ -490,7 +470,7 @@ public final class TermsEdgeTest {
 
     private static void nearestRole() {
         Check.about("2 NEAREST: otherwise those for the roles that it has near by the least number");
-        PolicyGate x = withChain(gate(1, 12, 1), 12);
+        PolicyGate x = withChain(Gates.gate(1, 12, 1), 12);
         x.setWeighing(NEAREST);
         x.setRole(0, 0, true);
         x.addRule(false, ROLE + 11, 1, 0);
@@ -507,7 +487,7 @@ public final class TermsEdgeTest {
 
     private static void nearestAsDeny() {
         Check.about("2 NEAREST: of these as with 0");
-        PolicyGate x = gate(1, 2, 1);
+        PolicyGate x = Gates.gate(1, 2, 1);
         x.setWeighing(NEAREST);
         x.setRole(0, 0, true);
         x.setRole(0, 1, true);
@@ -527,14 +507,14 @@ public final class TermsEdgeTest {
 
     private static void rankAsDeny() {
         Check.about("3 RANK: of those with the greatest RANK as with 0");
-        PolicyGate x = gate(1, 1, 2);
+        PolicyGate x = Gates.gate(1, 1, 2);
         x.setWeighing(RANK);
         x.setRole(0, 0, true);
         x.addRule(false, 0, 1, 1);
-        deepRule(x, true, ROLE, 1, 0);
+        Gates.deepRule(x, true, ROLE, 1, 0);
         x.setRule(1, true, 1);
         Check.same("1 above 0, however far", x.why(0, READ, 1), 1);
-        deepRule(x, true, ROLE, 1, 0);
+        Gates.deepRule(x, true, ROLE, 1, 0);
         x.setRule(2, true, 1);
         Check.same("two of 1, none denies", x.why(0, READ, 1), 1);
         x.addRule(false, ROLE, 1, 1);
@@ -550,7 +530,7 @@ public final class TermsEdgeTest {
 
     private static void thirtyGrants() {
         Check.about("At most 30 GRANTS, numbered from 0");
-        PolicyGate x = gate(12, 0, 24);
+        PolicyGate x = Gates.gate(12, 0, 24);
         x.addRule(true, 10, 16, 23);
         for (int k = 0; k < 30; k++) {
             Check.same("grant", x.grant(k == 29 ? 10 : 9, 11, SHARE, 23, 0, 60), k);
@@ -564,7 +544,7 @@ public final class TermsEdgeTest {
 
     private static void thereBelowTheEnd() {
         Check.about("it is there as long as the CLOCK is below that");
-        PolicyGate x = gate(2, 0, 1);
+        PolicyGate x = Gates.gate(2, 0, 1);
         x.addRule(true, 0, 17, 0);
         x.goOn(7);
         x.grant(0, 1, READ, 0, 0, 1);
@@ -586,7 +566,7 @@ public final class TermsEdgeTest {
 
     private static void goodOnThatResourceItself() {
         Check.about("the one from whom it is may do the action, and SHARE, on that resource itself");
-        PolicyGate x = gate(2, 0, 3);
+        PolicyGate x = Gates.gate(2, 0, 3);
         x.grant(0, 1, READ, 1, 0, 60);
         x.addRule(true, 0, 17, 0);
         Check.same("above it", x.isGood(0), false);
@@ -604,11 +584,13 @@ public final class TermsEdgeTest {
         x.dropRule(0);
         x.addRule(true, 0, 1, 1);
         Check.same("on it alone, it gives what is beneath", x.decide(1, READ, 2), 3);
+        x.grant(0, 1, READ, 2, 0, 60);
+        Check.same("of each grant its own resource", x.isGood(1), false);
     }
 
     private static void goodByBothRights() {
         Check.about("may do the action, and SHARE");
-        PolicyGate x = gate(2, 0, 1);
+        PolicyGate x = Gates.gate(2, 0, 1);
         for (int action = 0; action < 5; action++) {
             x.grant(0, 1, action, 0, 0, 60);
         }
@@ -629,8 +611,8 @@ public final class TermsEdgeTest {
 
     private static void goodByRulesAlone() {
         Check.about("by RULES alone: it tells 1");
-        PolicyGate x = gate(3, 0, 2);
-        deepRule(x, true, 0, ALL, 0);
+        PolicyGate x = Gates.gate(3, 0, 2);
+        Gates.deepRule(x, true, 0, ALL, 0);
         x.grant(1, 2, READ, 0, 0, 60);
         x.grant(0, 1, READ, 0, 0, 60);
         x.grant(0, 1, SHARE, 0, 0, 60);
@@ -649,7 +631,7 @@ public final class TermsEdgeTest {
         x.setLabel(0, 0);
         x.setWall(0, 0, 0);
         x.setWall(1, 0, 1);
-        deepRule(x, true, 1, ALL, 1);
+        Gates.deepRule(x, true, 1, ALL, 1);
         Check.same("before", x.isGood(0), true);
         x.access(1, READ, 1);
         Check.same("5 and 5", x.isGood(0), false);
@@ -657,7 +639,7 @@ public final class TermsEdgeTest {
 
     private static void passedOnFromASmallerNumber() {
         Check.about("there is a GOOD GRANT to it of the same action, whose number is smaller");
-        PolicyGate x = gate(4, 0, 1);
+        PolicyGate x = Gates.gate(4, 0, 1);
         x.addRule(true, 0, 17, 0);
         x.grant(1, 2, READ, 0, 0, 60);
         x.grant(0, 1, READ, 0, 1, 60);
@@ -675,7 +657,7 @@ public final class TermsEdgeTest {
     private static void passedOnWithHands() {
         Check.about("whose HANDS are more than its own (HANDS 0 to 3)");
         for (int hands = 0; hands < 4; hands++) {
-            PolicyGate x = gate(3, 0, 1);
+            PolicyGate x = Gates.gate(3, 0, 1);
             x.addRule(true, 0, 17, 0);
             x.grant(0, 1, READ, 0, hands, 60);
             for (int own = 0; own < 4; own++) {
@@ -683,7 +665,7 @@ public final class TermsEdgeTest {
                 Check.same(hands + " more than " + own, x.isGood(grant), hands > own);
             }
         }
-        PolicyGate chain = gate(6, 0, 1);
+        PolicyGate chain = Gates.gate(6, 0, 1);
         chain.addRule(true, 0, 17, 0);
         for (int k = 0; k < 5; k++) {
             chain.grant(k, k + 1, READ, 0, Math.max(3 - k, 0), 60);
@@ -695,8 +677,8 @@ public final class TermsEdgeTest {
 
     private static void passedOnBeneath() {
         Check.about("a GOOD GRANT on that resource, or one that it is beneath");
-        PolicyGate x = gate(3, 0, 24);
-        deepRule(x, true, 0, 17, 0);
+        PolicyGate x = Gates.gate(3, 0, 24);
+        Gates.deepRule(x, true, 0, 17, 0);
         x.grant(0, 1, READ, 1, 1, 60);
         x.grant(1, 2, READ, 1, 0, 60);
         x.grant(1, 2, READ, 2, 0, 60);
@@ -711,7 +693,7 @@ public final class TermsEdgeTest {
 
     private static void passedOnWhileGood() {
         Check.about("there is a GOOD GRANT to it (not one that has ended, or rests on nothing)");
-        PolicyGate x = gate(4, 0, 1);
+        PolicyGate x = Gates.gate(4, 0, 1);
         x.addRule(true, 0, 17, 0);
         x.grant(0, 1, READ, 0, 2, 10);
         x.grant(1, 2, READ, 0, 1, 60);
@@ -730,7 +712,7 @@ public final class TermsEdgeTest {
 
     private static void passedOnWhateverIsDecided() {
         Check.about("what is DECIDED about it is not asked then");
-        PolicyGate x = gate(3, 0, 2);
+        PolicyGate x = Gates.gate(3, 0, 2);
         x.addRule(true, 0, 31, 0);
         x.grant(0, 1, READ, 0, 1, 60);
         x.grant(1, 2, READ, 1, 0, 60);
@@ -745,7 +727,7 @@ public final class TermsEdgeTest {
     }
 
     private static void decidedByLabel() {
-        Check.about("4: READ, if the LABEL is above the CLEARANCE; WRITE, MAKE or DROP, if it is below it; SHARE never");
+        Check.about("4: READ, if the LABEL is above the CLEARANCE; WRITE, MAKE or DROP, if below; SHARE never");
         for (int clearance = 0; clearance < 4; clearance++) {
             PolicyGate x = new PolicyGate();
             x.addUser(clearance, 0);
@@ -765,9 +747,9 @@ public final class TermsEdgeTest {
     private static void decidedByWall() {
         Check.about("5: the user has done any action on one that has now the same class and another house");
         for (int action = 0; action < 5; action++) {
-            PolicyGate x = gate(2, 0, 3);
-            deepRule(x, true, 0, ALL, 0);
-            deepRule(x, true, 1, ALL, 0);
+            PolicyGate x = Gates.gate(2, 0, 3);
+            Gates.deepRule(x, true, 0, ALL, 0);
+            Gates.deepRule(x, true, 1, ALL, 0);
             x.setWall(1, 1, 2);
             x.setWall(2, 1, 3);
             x.decide(0, action, 1);
@@ -786,10 +768,29 @@ public final class TermsEdgeTest {
         }
     }
 
+    private static void wallsOfOthers() {
+        Check.about("5: the user itself, on one that has a WALL (of users next to each other, the last class)");
+        PolicyGate x = Gates.gate(3, 0, 4);
+        for (int user = 0; user < 3; user++) {
+            Gates.deepRule(x, true, user, ALL, 0);
+        }
+        x.setWall(1, 3, 0);
+        x.setWall(2, 3, 1);
+        x.setWall(3, -1, 2);
+        x.access(1, READ, 1);
+        x.access(1, READ, 3);
+        x.access(2, READ, 3);
+        for (int user = 0; user < 3; user++) {
+            Check.same("without a wall, " + user, x.decide(user, READ, 3), 1);
+            Check.same("the house of user 1, " + user, x.decide(user, READ, 1), 1);
+            Check.same("another house, " + user, x.decide(user, READ, 2), user == 1 ? 5 : 1);
+        }
+    }
+
     private static void wallsAsTheyAreNow() {
         Check.about("5: one that has now the same class and another house");
-        PolicyGate x = gate(1, 0, 3);
-        deepRule(x, true, 0, ALL, 0);
+        PolicyGate x = Gates.gate(1, 0, 3);
+        Gates.deepRule(x, true, 0, ALL, 0);
         x.access(0, READ, 1);
         x.access(0, READ, 2);
         x.setWall(1, 2, 0);
@@ -807,8 +808,8 @@ public final class TermsEdgeTest {
 
     private static void decidedInOrder() {
         Check.about("the first of these that is so: 4, 5, 1 or 2, 3, 0");
-        PolicyGate x = gate(2, 0, 3);
-        deepRule(x, true, 0, ALL, 0);
+        PolicyGate x = Gates.gate(2, 0, 3);
+        Gates.deepRule(x, true, 0, ALL, 0);
         Check.same("nothing is so", x.decide(1, READ, 2), 0);
         x.grant(0, 1, READ, 2, 0, 1000);
         Check.same("3", x.decide(1, READ, 2), 3);
@@ -835,7 +836,7 @@ public final class TermsEdgeTest {
 
     private static void allowedWithOneAndThree() {
         Check.about("With 1 and 3 it is ALLOWED");
-        PolicyGate x = gate(2, 0, 3);
+        PolicyGate x = Gates.gate(2, 0, 3);
         x.addRule(true, 0, 17, 0);
         x.addRule(false, 0, 2, 0);
         x.grant(0, 1, READ, 0, 0, 60);

@@ -785,6 +785,16 @@ public final class TermsEdgeTest {
             Check.same("the house of user 1, " + user, x.decide(user, READ, 1), 1);
             Check.same("another house, " + user, x.decide(user, READ, 2), user == 1 ? 5 : 1);
         }
+        PolicyGate y = Gates.gate(3, 0, 24);
+        for (int user = 0; user < 3; user++) {
+            Gates.deepRule(y, true, user, ALL, 0);
+        }
+        y.setWall(10, 0, 1);
+        y.access(1, READ, 0);
+        y.access(1, READ, 23);
+        for (int user = 0; user < 3; user++) {
+            Check.same("user 1 was on the first and the last one, without walls, " + user, y.decide(user, READ, 10), 1);
+        }
     }
 
     private static void wallsAsTheyAreNow() {

@@ -13,7 +13,8 @@ import java.util.regex.Pattern;
 /** Those rules of LANGUAGE.md that can be seen in the text of the class; to be run from the project's folder. */
 public final class LanguageTest {
     private static final Path FILE = Path.of("src/main/java/PolicyGate.java");
-    private static final Pattern CLASS_HEAD = Pattern.compile("^ *(?:public |private )?(?:static )?final class (\\w+) \\{");
+    private static final Pattern CLASS_HEAD = Pattern.compile(
+            "^ *(?:public |private )?(?:static )?final class (\\w+) \\{");
     private static final Pattern METHOD_HEAD = Pattern.compile(
             "^    (?:    )?(?:(?:public |private |static )*(?:int|long|double|boolean|void) )?(\\w+)\\(([^()]*)\\)"
             + "(?:\\s+throws [\\w, ]+)? \\{", Pattern.MULTILINE);
@@ -23,8 +24,8 @@ public final class LanguageTest {
     /** What the rules leave out, or what a class without texts, lists and catches has no use for. */
     private static final String[] NOT_THERE = {
         "->", "::", "try", "catch", "finally", "synchronized", "assert", "instanceof", "Exact(", "System.", "Thread",
-        "Random", "float", "Object", "hashCode", "equals", "toString", "package ", "record ", "static {", "while (true)",
-        "for (;", "@", "<", ">",
+        "Random", "float", "Object", "hashCode", "equals", "toString", "package ", "record ", "static {",
+        "while (true)", "for (;", "@", "<", ">",
     };
 
     private final String text;
